@@ -33,7 +33,7 @@ public final class LinkDirectory {
     private static final int IS_OFF = 1, SIDE = 2, SENT = 3, HOST_COLUMNS = 4;
     private static final int TIME = 0, INTERVAL = 1, QUERIES = 2, REFRESHES = 3, IS_BROWSING = 4, BROWSER_COLUMNS = 5;
     private static final int MARKED = 0, MARK_COLUMNS = 1;
-    private static final int EVENT_COLUMNS = 4;
+    private static final int SORT = 0, WHEN = 1, WHOSE = 2, DETAIL = 3, EVENT_COLUMNS = 4;
 
     private static final String FIRST_TEXT =
         "hosts a b;types t;service a t x 80 100;service b t x 90 100;browse a t;";
@@ -141,7 +141,7 @@ public final class LinkDirectory {
             case 7: return now.browsersOfAll();
             case 8: return now.renamings;
             case 9: return now.conflicts;
-            case 10: return now.events.size();
+            case 10: return now.eventsKept();
             case 11: return history.size();
             default: throw new IllegalArgumentException("what is 0 to 11");
         }
@@ -242,13 +242,13 @@ public final class LinkDirectory {
     }
 
     public int log(int event, int what) throws IndexOutOfBoundsException, IllegalArgumentException {
-        if (event < 0 || event >= now.events.size()) {
+        if (event < 0 || event >= now.eventsKept()) {
             throw new IndexOutOfBoundsException("there is no such event");
         }
-        if (what < 0 || what >= EVENT_COLUMNS) {
+        if (what < SORT || what > DETAIL) {
             throw new IllegalArgumentException("what is 0 to 3");
         }
-        return now.events.at(now.events.size() - 1 - event, what);
+        return now.events.at((now.noted - 1 - event) % MOST_EVENTS, what);
     }
 
     // ---- what hosts know
@@ -721,7 +721,9 @@ public final class LinkDirectory {
             int end = begin + width;
             if (end > cells.length) {
                 int[] more = new int[Math.max(0, Math.min(end * 2, most * width))];
-                System.arraycopy(cells, 0, more, 0, Math.min(begin, more.length));
+                for (int cell = 0; cell < begin && cell < cells.length && cell < more.length; cell++) {
+                    more[cell] = cells[cell];
+                }
                 cells = more;
             }
             for (int cell = begin; cell < end && cell < cells.length; cell++) {
@@ -733,14 +735,14 @@ public final class LinkDirectory {
 
         void dropRow(int row) {
             if (row >= 0 && row < size) {
-                System.arraycopy(cells, (row + 1) * width, cells, row * width, (size - row - 1) * width);
+                move(cells, (row + 1) * width, cells, row * width, (size - row - 1) * width);
                 size--;
             }
         }
 
         void dropFirst(int rows) {
             if (rows > 0 && rows <= size) {
-                System.arraycopy(cells, rows * width, cells, 0, (size - rows) * width);
+                move(cells, rows * width, cells, 0, (size - rows) * width);
                 size -= rows;
             }
         }
@@ -756,8 +758,16 @@ public final class LinkDirectory {
             if (other.cells.length > cells.length) {
                 cells = new int[other.cells.length];
             }
-            System.arraycopy(other.cells, 0, cells, 0, other.size * other.width);
+            move(other.cells, 0, cells, 0, other.size * other.width);
             size = other.size;
+        }
+
+        private static void move(int[] from, int fromPlace, int[] to, int toPlace, int length) {
+            boolean isInside = fromPlace >= 0 && toPlace >= 0 && length >= 0
+                && length <= from.length - fromPlace && length <= to.length - toPlace;
+            if (isInside) {
+                System.arraycopy(from, fromPlace, to, toPlace, length);
+            }
         }
 
         int placeOf(int column, int value) {
@@ -822,6 +832,8 @@ public final class LinkDirectory {
         private int lost;
         private int renamings;
         private int conflicts;
+        // Events so far: the row of an event is its number modulo 20, so that the latest ones are kept.
+        private int noted;
         // How many of the messages come in the next tick; those behind were sent by changes since the latest one.
         private int due;
 
@@ -856,6 +868,9 @@ public final class LinkDirectory {
             answers.clear();
             marks.clear();
             events.clear();
+            for (int event = 0; event < MOST_EVENTS; event++) {
+                events.addRow();
+            }
             for (int host = 0; host < MOST_HOSTS; host++) {
                 cacheOf(host).clear();
             }
@@ -864,6 +879,7 @@ public final class LinkDirectory {
             lost = 0;
             renamings = 0;
             conflicts = 0;
+            noted = 0;
             due = 0;
         }
 
@@ -884,6 +900,7 @@ public final class LinkDirectory {
             lost = other.lost;
             renamings = other.renamings;
             conflicts = other.conflicts;
+            noted = other.noted;
             due = other.due;
         }
 
@@ -958,6 +975,10 @@ public final class LinkDirectory {
                     && services.at(service, STATE) != WITHDRAWN;
             }
             return isTaken;
+        }
+
+        int eventsKept() {
+            return Math.min(MOST_EVENTS, noted);
         }
 
         // ---- what hosts know
@@ -1355,14 +1376,12 @@ public final class LinkDirectory {
         }
 
         private void noteEvent(int kind, int whose, int number) {
-            if (events.size() >= MOST_EVENTS) {
-                events.dropRow(0);
-            }
-            int event = events.addRow();
-            events.put(event, 0, kind);
-            events.put(event, 1, time);
-            events.put(event, 2, whose);
-            events.put(event, 3, number);
+            int event = noted % MOST_EVENTS;
+            events.put(event, SORT, kind);
+            events.put(event, WHEN, time);
+            events.put(event, WHOSE, whose);
+            events.put(event, DETAIL, number);
+            noted++;
         }
 
         // ---- changes

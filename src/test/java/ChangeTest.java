@@ -23,6 +23,7 @@ public final class ChangeTest {
         browse();
         mark();
         undo();
+        undoOfCounts();
         undoOfEach();
         changesWithoutEffect();
         save();
@@ -386,6 +387,26 @@ public final class ChangeTest {
         Check.due("undo", 1, x::undo);
         Check.due("undo", 0, x::undo);
         Check.same("the state before", states[4], withoutChanges(x));
+    }
+
+    /** A conflict, a renaming, a lost message, an expired record and what browsers did are undone with the rest. */
+    private static void undoOfCounts() {
+        LinkDirectory x = Check.loaded("hosts a b;types t;service a t x 5 20;service b t x 6 20;browse a t;lose 14;");
+        x.setSide(0, 1);
+        x.pass(12);
+        x.setSide(0, 0);
+        x.setPort(1, 6);
+        String before = withoutChanges(x);
+        x.pass(60);
+        int[] counts = {5, 8, 9};
+        for (int what : counts) {
+            Check.due("count(" + what + ") is there", 1, () -> x.count(what) > 0 ? 1 : 0);
+        }
+        String behind = withoutChanges(x);
+        x.undo();
+        Check.same("everything is undone", before, withoutChanges(x));
+        x.pass(60);
+        Check.same("and comes again", behind, withoutChanges(x));
     }
 
     /** Each kind of change can be undone, and what was undone can be done again. */

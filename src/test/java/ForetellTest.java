@@ -40,7 +40,19 @@ public final class ForetellTest {
         for (int wrong : new int[] {-1, 2, Integer.MIN_VALUE, Integer.MAX_VALUE}) {
             Check.due("no such service", INDEX, () -> x.establishedIn(wrong));
         }
-        // Four hosts with one name: each loses against the greater ones, which are established one by one.
+        // It will be established in 101 ticks, and then in 100.
+        LinkDirectory z = heldUp(9, 0, 2);
+        Check.put(z, "x");
+        int added = z.add(1, 0, 5, 50);
+        Check.due("one too late", ELEMENT, () -> z.establishedIn(added));
+        z.pass(1);
+        Check.due("within exactly 100 ticks", 100, () -> z.establishedIn(added));
+        z.pass(99);
+        Check.due("not yet", 1, () -> z.service(added, 5));
+        z.pass(1);
+        Check.due("now", 2, () -> z.service(added, 5));
+        Check.due("its NUMBER", 4, () -> z.service(added, 2));
+        // Six hosts with one name: each loses against the greater ones, which are established one by one.
         LinkDirectory y = Check.loaded("hosts a b c d e f;types t;service a t x 1 100;service b t x 2 100;"
             + "service c t x 3 100;service d t x 4 100;service e t x 5 100;service f t x 6 100;");
         long foretold = Check.answerOf((Check.Call) () -> y.establishedIn(0));
@@ -199,24 +211,35 @@ public final class ForetellTest {
         Check.due("the host is off", STATE, () -> x.numberIf(2, 0, 0, 5));
         x.setOn(1, false, false);
         Check.due("off, and it has the name", STATE, () -> x.numberIf(1, 0, 1, 5));
-        tooLate(9, 2);
-        tooLate(10, ELEMENT);
+        tooLate(9, 0, 0, 2);
+        tooLate(10, 0, 0, ELEMENT);
+        // 95 ticks behind nine rounds, 2 more for a lost defence, 3 more for each other name that is taken.
+        tooLate(9, 1, 1, 3);
+        tooLate(9, 0, 2, ELEMENT);
     }
 
     /**
-     * The new service begins to probe at 12, and again 9 ticks later as often as its rival's three defences are
-     * lost: it announces then, and loses a conflict. Behind that it is renamed at once, and established in the
+     * The new service of b begins to probe for x at once, and again 9 ticks later as often as a's three defences
+     * are lost: it announces then, and loses a conflict. Behind that it is renamed at once, and established in the
      * 14th tick.
      */
-    private static void tooLate(int times, long want) {
-        LinkDirectory x = Check.loaded("hosts a b;types t;service a t x 500 1000;");
-        x.pass(12);
-        for (int round = 0; round < times; round++) {
-            for (int defence = 6; defence <= 10; defence += 2) {
-                x.mark(8 * round + defence);
+    private static LinkDirectory heldUp(int rounds, int more, int names) {
+        StringBuilder text = new StringBuilder("hosts a b c d;types t;service a t x 500 1000;");
+        text.append(names > 0 ? "service c t x 4 1000;" : "").append(names > 1 ? "service d t x 3 1000;" : "");
+        LinkDirectory x = Check.loaded(text.toString());
+        x.pass(60);
+        int sent = x.count(4);
+        for (int round = 0; round <= rounds; round++) {
+            for (int defence = 0; defence < (round < rounds ? 3 : more); defence++) {
+                x.mark(sent + 8 * round + 2 * defence + 1);
             }
         }
-        Check.due("behind " + times + " conflicts", want, () -> x.numberIf(1, 0, 0, 5));
+        return x;
+    }
+
+    private static void tooLate(int rounds, int more, int names, long want) {
+        LinkDirectory x = heldUp(rounds, more, names);
+        Check.due("behind " + rounds + " conflicts and " + names + " names", want, () -> x.numberIf(1, 0, 0, 5));
     }
 
     private static void nothingChanges() {
