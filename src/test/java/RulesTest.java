@@ -725,6 +725,15 @@ public final class RulesTest {
         Check.due("the last one", 199, () -> x.message(197, 5));
         x.restore(0);
         Check.due("none", 0, () -> x.count(6));
+        LinkDirectory y = Check.loaded("hosts a b;types t;service b t x 5 100;");
+        y.pass(12);
+        for (int port = 1; port <= 150; port++) {
+            y.setPort(0, port);
+        }
+        for (int place = 0; place < 150; place++) {
+            int at = place;
+            Check.due("the host of message " + place, 1, () -> y.message(at, 2));
+        }
     }
 
     /** Five hosts that know the eleven services of the sixth ask for all of them at once. */

@@ -11,6 +11,7 @@ public final class TextTest {
         truncate();
         load();
         loadBeginsAnew();
+        loadBehindForetelling();
         failedLoad();
         emptyAndCut();
         badTokens();
@@ -129,6 +130,33 @@ public final class TextTest {
         Check.dueDeed("slot 0 is empty", Check.THROWS_ELEMENT, () -> x.restore(0));
         Check.dueDeed("slot 1 is empty", Check.THROWS_ELEMENT, () -> x.restore(1));
         Check.same("the output stays", "x-2.t e\nx.t e\n", Check.outputOf(x));
+    }
+
+    /** What was foretold before must not come into the state for a text. */
+    private static void loadBehindForetelling() {
+        String text = "hosts a b;types t u;service a t x 5 20;service b t x 6 20;browse a t;browse b u;lose 3;";
+        LinkDirectory x = Check.loaded(text);
+        x.setSide(0, 1);
+        x.pass(12);
+        x.setSide(0, 0);
+        x.setPort(1, 6);
+        x.setPort(0, 7);
+        x.setOn(0, false, true);
+        x.setOn(0, true, false);
+        for (int ticks = 0; ticks <= 100; ticks++) {
+            x.messagesIn(ticks);
+            Check.load(x, text);
+            LinkDirectory y = Check.loaded(text);
+            Check.same("the state for the text", Check.stateOf(y), Check.stateOf(x));
+            x.pass(30);
+            y.pass(30);
+            Check.same("30 ticks later", Check.stateOf(y), Check.stateOf(x));
+            x.undo();
+            x.setSide(0, 1);
+            x.pass(12);
+            x.setSide(0, 0);
+            x.setPort(1, 6);
+        }
     }
 
     private static void failedLoad() {
@@ -354,6 +382,9 @@ public final class TextTest {
         }
         Check.same("30 losses", 0, Check.load(x, losses.toString()));
         Check.due("the last one", 1, () -> x.isMarked(870) ? 1 : 0);
+        error(losses + "lose 1;", 5, losses.length() + 5);
+        error(losses + "lose 30;", 3, losses.length() + 5);
+        error(losses + "lose;", 1, losses.length() + 4);
     }
 
     private static void find() {
