@@ -15,7 +15,9 @@ public final class LinkDirectory {
     private static final int MOST_UNDONE = 8, SLOTS = 2;
     private static final int MOST_MESSAGE = 999;
     private static final int LEAST_PORT = 1, MOST_PORT = 999, LEAST_TTL = 20, MOST_TTL = 1000;
-    private static final int USUAL_TTL = 100;
+    private static final int SUPPOSED_TTL = 100;
+    private static final int MOST_LETTERS = 6, LETTER_BITS = 5;
+    private static final int MOST_PROBES = 3, MOST_AGE = 4, FIRST_INTERVAL = 2, MOST_INTERVAL = 64;
 
     private static final int PROBE = 0, RESPONSE = 1, QUERY = 2;
     // What a service can send beside these two kinds: a response with the TTL 0.
@@ -56,7 +58,7 @@ public final class LinkDirectory {
         history = new History();
         slots = new Link[SLOTS];
         isSaved = new boolean[SLOTS];
-        for (int slot = 0; slot < SLOTS; slot++) {
+        for (int slot = 0; slot < slots.length; slot++) {
             slots[slot] = new Link();
         }
         errorCode = 0;
@@ -355,7 +357,7 @@ public final class LinkDirectory {
             throw new IllegalStateException("the host has this name, or is off");
         }
         scratch.copyFrom(now);
-        int added = scratch.addService(host, type, base, port, USUAL_TTL);
+        int added = scratch.addService(host, type, base, port, SUPPOSED_TTL);
         for (int ticks = 0; ticks <= MOST_TICKS; ticks++) {
             if (scratch.services.at(added, STATE) == ESTABLISHED) {
                 return scratch.services.at(added, NUMBER);
@@ -575,7 +577,7 @@ public final class LinkDirectory {
 
     // A word of at most 6 letters is held in one int: five bits for each letter, the first letter lowest.
     private static int letterOf(int word, int place) {
-        int letter = place < 0 || place > 5 ? 0 : word >> 5 * place & 31;
+        int letter = place < 0 || place >= MOST_LETTERS ? 0 : word >> LETTER_BITS * place & 31;
         return letter == 0 ? NONE : 'a' - 1 + letter;
     }
 
@@ -628,7 +630,7 @@ public final class LinkDirectory {
         }
 
         void putWord(int word) {
-            for (int place = 0; place < 6; place++) {
+            for (int place = 0; place < MOST_LETTERS; place++) {
                 int letter = letterOf(word, place);
                 if (letter != NONE) {
                     put(letter);
@@ -653,7 +655,7 @@ public final class LinkDirectory {
 
         /** The word of 1 to 6 letters between two places; NONE if there is something else. */
         int wordIn(int from, int to) {
-            if (to - from < 1 || to - from > 6) {
+            if (to - from < 1 || to - from > MOST_LETTERS) {
                 return NONE;
             }
             int word = 0;
@@ -662,7 +664,7 @@ public final class LinkDirectory {
                 if (letter < 1 || letter > 26) {
                     return NONE;
                 }
-                word |= letter << 5 * (place - from);
+                word |= letter << LETTER_BITS * (place - from);
             }
             return word;
         }
@@ -752,6 +754,7 @@ public final class LinkDirectory {
         }
 
         void copyFrom(Table other) {
+            // Only a table of the same kind is sure to have room for the rows.
             if (other.width != width || other.most != most) {
                 return;
             }
@@ -850,7 +853,7 @@ public final class LinkDirectory {
             events = new Table(EVENT_COLUMNS, MOST_EVENTS, MOST_EVENTS);
             noCache = new Table(RECORD_COLUMNS, 0, 0);
             caches = new Table[MOST_HOSTS];
-            for (int host = 0; host < MOST_HOSTS; host++) {
+            for (int host = 0; host < caches.length; host++) {
                 caches[host] = new Table(RECORD_COLUMNS, MOST_RECORDS, MOST_RECORDS);
             }
             reset();
@@ -967,14 +970,14 @@ public final class LinkDirectory {
 
         /** Whether a service of the host that is not withdrawn has this name, with the NUMBER 0. */
         boolean isTaken(int host, int type, int base) {
-            boolean isTaken = false;
             for (int service = 0; service < services.size(); service++) {
                 boolean isNamed = services.at(service, BASE) == base && services.at(service, NUMBER) == 0
                     && services.at(service, TYPE) == type;
-                isTaken = isTaken || isNamed && services.at(service, HOST) == host
-                    && services.at(service, STATE) != WITHDRAWN;
+                if (isNamed && services.at(service, HOST) == host && services.at(service, STATE) != WITHDRAWN) {
+                    return true;
+                }
             }
-            return isTaken;
+            return false;
         }
 
         int eventsKept() {
@@ -1011,15 +1014,14 @@ public final class LinkDirectory {
         }
 
         private boolean isStale(Table cache, int place) {
-            boolean isStale = true;
             for (int service = 0; service < services.size(); service++) {
                 boolean isSame = services.isNamedAs(service, cache, place)
                     && services.compareData(service, cache, place) == 0;
                 if (isSame && holdsName(service) && isOn(services.at(service, HOST))) {
-                    isStale = false;
+                    return false;
                 }
             }
-            return isStale;
+            return true;
         }
 
         int clashingPairs() {
@@ -1079,7 +1081,7 @@ public final class LinkDirectory {
             if (reason == 3 || reason == 4) {
                 return services.at(service, ALARM) - time;
             }
-            return reason == 5 ? 3 - services.at(service, PROBES) : NONE;
+            return reason == 5 ? MOST_PROBES - services.at(service, PROBES) : NONE;
         }
 
         // ---- a tick
@@ -1170,12 +1172,13 @@ public final class LinkDirectory {
         private boolean isKnownAnswer(int message, int service) {
             int first = messages.at(message, FIRST_ANSWER);
             int behind = first + messages.at(message, ANSWERS);
-            boolean isKnown = false;
             for (int answer = first; answer < behind; answer++) {
-                isKnown = isKnown || answers.isNamedAs(answer, services, service)
-                    && answers.compareData(answer, services, service) == 0;
+                boolean isNamed = answers.isNamedAs(answer, services, service);
+                if (isNamed && answers.compareData(answer, services, service) == 0) {
+                    return true;
+                }
             }
-            return isKnown;
+            return false;
         }
 
         private void keepRecord(int message, int host) {
@@ -1232,7 +1235,7 @@ public final class LinkDirectory {
                 int alarm = services.at(service, ALARM);
                 int state = services.at(service, STATE);
                 boolean acts = isOn(services.at(service, HOST)) && alarm != NONE && alarm <= time;
-                if (acts && state == PROBING && services.at(service, PROBES) < 3) {
+                if (acts && state == PROBING && services.at(service, PROBES) < MOST_PROBES) {
                     sendFor(service, PROBE);
                     services.increase(service, PROBES);
                     services.put(service, ALARM, time + 2);
@@ -1274,7 +1277,7 @@ public final class LinkDirectory {
             if (asks) {
                 int interval = browsers.at(browser, INTERVAL);
                 browsers.put(browser, TIME, time + interval);
-                browsers.put(browser, INTERVAL, Math.min(64, interval * 2));
+                browsers.put(browser, INTERVAL, Math.min(MOST_INTERVAL, interval * 2));
             }
             if (refreshes) {
                 browsers.increase(browser, REFRESHES);
@@ -1288,7 +1291,7 @@ public final class LinkDirectory {
             for (int place = 0; place < cache.size(); place++) {
                 int age = cache.at(place, AGE);
                 int refreshTime = cache.at(place, BORN) + cache.at(place, TTL) * (80 + 5 * age) / 100;
-                if (cache.at(place, TYPE) == type && age < 4 && time >= refreshTime) {
+                if (cache.at(place, TYPE) == type && age < MOST_AGE && time >= refreshTime) {
                     cache.increase(place, AGE);
                     found++;
                 }
@@ -1318,13 +1321,14 @@ public final class LinkDirectory {
         }
 
         private boolean hasTwin(int service) {
-            boolean hasTwin = false;
             for (int other = 0; other < services.size(); other++) {
                 boolean isOfHost = other != service && services.at(other, HOST) == services.at(service, HOST);
-                hasTwin = hasTwin || isOfHost && services.at(other, STATE) != WITHDRAWN
-                    && services.isNamedAs(service, services, other);
+                boolean isNamed = services.isNamedAs(service, services, other);
+                if (isOfHost && isNamed && services.at(other, STATE) != WITHDRAWN) {
+                    return true;
+                }
             }
-            return hasTwin;
+            return false;
         }
 
         // ---- sending
@@ -1440,7 +1444,7 @@ public final class LinkDirectory {
         void beginToBrowse(int host, int type) {
             int browser = browserOf(host, type);
             browsers.put(browser, TIME, time);
-            browsers.put(browser, INTERVAL, 2);
+            browsers.put(browser, INTERVAL, FIRST_INTERVAL);
             browsers.put(browser, QUERIES, 0);
             browsers.put(browser, REFRESHES, 0);
             browsers.put(browser, IS_BROWSING, 1);
@@ -1463,7 +1467,7 @@ public final class LinkDirectory {
 
         History() {
             kept = new Link[MOST_UNDONE];
-            for (int place = 0; place < MOST_UNDONE; place++) {
+            for (int place = 0; place < kept.length; place++) {
                 kept[place] = new Link();
             }
             next = 0;
