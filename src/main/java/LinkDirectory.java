@@ -25,12 +25,16 @@ public final class LinkDirectory {
     private static final int RENAMED_EVENT = 0, LOST_EVENT = 1, CONFLICT_EVENT = 2, ESTABLISHED_EVENT = 3;
     private static final int EXPIRED_EVENT = 4, SUPPRESSED_EVENT = 5, MESSAGE_LOST_EVENT = 6;
 
-    // The columns of the tables. Services, records, messages and known answers begin with the same ones.
+    // The columns of the tables. Services, records, parts of the mail and known answers begin with the same ones.
     private static final int HOST = 0, TYPE = 1, NUMBER = 2, PORT = 3, TTL = 4, BASE = 5, SHARED_COLUMNS = 6;
     private static final int STATE = 6, PROBES = 7, ALARM = 8, RENAMED = 9, LOST = 10, CONFLICTS = 11;
     private static final int SERVICE_COLUMNS = 12;
     private static final int BORN = 6, AGE = 7, RECORD_COLUMNS = 8;
-    private static final int KIND = 6, ID = 7, ANSWERS = 8, FIRST_ANSWER = 9, MESSAGE_COLUMNS = 10;
+    // SENT_BY and LATEST are the first of six columns.
+    private static final int KIND = 6, ANSWERS = 7, FIRST_ANSWER = 8, LENGTH = 9, FIRST_PIECE = 10, PIECES = 11;
+    private static final int SENT_BY = 12, LATEST = SENT_BY + MOST_HOSTS, WANTED = LATEST + MOST_HOSTS;
+    private static final int REPLIED = WANTED + 1, REPLY = REPLIED + 1, PART_COLUMNS = REPLY + 1;
+    private static final int PART = 0, PIECE_COLUMNS = 1, FIRST_ID = 1, ITEM_COLUMNS = 2;
     private static final int NAME = 0, TYPE_COLUMNS = 1;
     private static final int IS_OFF = 1, SIDE = 2, SENT = 3, HOST_COLUMNS = 4;
     private static final int TIME = 0, INTERVAL = 1, QUERIES = 2, REFRESHES = 3, IS_BROWSING = 4, BROWSER_COLUMNS = 5;
@@ -139,7 +143,7 @@ public final class LinkDirectory {
             case 3: return now.time;
             case 4: return now.sent;
             case 5: return now.lost;
-            case 6: return now.messages.size();
+            case 6: return now.messagesUnderWay();
             case 7: return now.browsersOfAll();
             case 8: return now.renamings;
             case 9: return now.conflicts;
@@ -222,18 +226,22 @@ public final class LinkDirectory {
     }
 
     public int message(int place, int what) throws IndexOutOfBoundsException, IllegalArgumentException {
-        if (place < 0 || place >= now.messages.size()) {
+        if (place < 0 || place >= now.messagesUnderWay()) {
             throw new IndexOutOfBoundsException("there is no such message");
         }
+        int due = now.due.length();
+        Mail mail = place < due ? now.due : now.later;
+        int placeInMail = place < due ? place : place - due;
+        int message = mail.messageAt(placeInMail);
         switch (what) {
-            case 0: return now.messages.at(place, KIND);
-            case 1: return now.messages.at(place, ID);
-            case 2: return now.messages.at(place, HOST);
-            case 3: return now.messages.at(place, TYPE);
-            case 4: return now.messages.at(place, NUMBER);
-            case 5: return now.messages.at(place, PORT);
-            case 6: return now.messages.at(place, TTL);
-            case 7: return now.messages.at(place, ANSWERS);
+            case 0: return mail.parts.at(message, KIND);
+            case 1: return mail.idAt(placeInMail);
+            case 2: return mail.parts.at(message, HOST);
+            case 3: return mail.parts.at(message, TYPE);
+            case 4: return mail.parts.at(message, NUMBER);
+            case 5: return mail.parts.at(message, PORT);
+            case 6: return mail.parts.at(message, TTL);
+            case 7: return mail.parts.at(message, ANSWERS);
             default: throw new IllegalArgumentException("what is 0 to 7");
         }
     }
@@ -573,7 +581,13 @@ public final class LinkDirectory {
         }
     }
 
-    // ---- words and signs
+    // ---- numbers, words and signs
+
+    // Messages can be more than an int tells: the greatest int stands for all greater numbers.
+    private static int sumOf(int number, int other) {
+        long sum = (long) number + other;
+        return sum > Integer.MAX_VALUE ? Integer.MAX_VALUE : (int) sum;
+    }
 
     // A word of at most 6 letters is held in one int: five bits for each letter, the first letter lowest.
     private static int letterOf(int word, int place) {
@@ -711,7 +725,11 @@ public final class LinkDirectory {
         }
 
         void increase(int row, int column) {
-            put(row, column, at(row, column) + 1);
+            put(row, column, sumOf(at(row, column), 1));
+        }
+
+        void increaseBy(int row, int column, int number) {
+            put(row, column, sumOf(at(row, column), number));
         }
 
         /** Adds a row of zeros; answers its number, or NONE if there is no room. */
@@ -722,7 +740,8 @@ public final class LinkDirectory {
             int begin = size * width;
             int end = begin + width;
             if (end > cells.length) {
-                int[] more = new int[Math.max(0, Math.min(end * 2, most * width))];
+                int length = end < most * width - end ? end * 2 : most * width;
+                int[] more = new int[length > 0 ? length : 0];
                 for (int cell = 0; cell < begin && cell < cells.length && cell < more.length; cell++) {
                     more[cell] = cells[cell];
                 }
@@ -742,10 +761,9 @@ public final class LinkDirectory {
             }
         }
 
-        void dropFirst(int rows) {
-            if (rows > 0 && rows <= size) {
-                move(cells, rows * width, cells, 0, (size - rows) * width);
-                size -= rows;
+        void cutTo(int rows) {
+            if (rows >= 0 && rows < size) {
+                size = rows;
             }
         }
 
@@ -815,21 +833,240 @@ public final class LinkDirectory {
         }
     }
 
+    /**
+     * The messages that were sent at one time, in their order. Services with the same name can answer each other
+     * until there are more messages than could be held one by one. So a part, which is a message or a run of other
+     * parts, is held once, and stands wherever it is sent again. The parts of a run have lower rows than the run,
+     * and all messages in it are responses with the same name, one of each host at most.
+     */
+    private static final class Mail {
+        // Far more than 512 calls can make.
+        private static final int MOST_PARTS = 1 << 16, MOST_PIECES = 1 << 18, MOST_ITEMS = 1 << 18;
+
+        private final Table parts;
+        private final Table pieces;
+        private final Table items;
+        // The pieces behind this place belong to the run that is being made.
+        private int ended;
+
+        Mail() {
+            parts = new Table(PART_COLUMNS, 32, MOST_PARTS);
+            pieces = new Table(PIECE_COLUMNS, 32, MOST_PIECES);
+            items = new Table(ITEM_COLUMNS, 64, MOST_ITEMS);
+            ended = 0;
+        }
+
+        void clear() {
+            parts.clear();
+            pieces.clear();
+            items.clear();
+            ended = 0;
+        }
+
+        void copyFrom(Mail other) {
+            parts.copyFrom(other.parts);
+            pieces.copyFrom(other.pieces);
+            items.copyFrom(other.items);
+            ended = other.ended;
+        }
+
+        // ---- what is in it
+
+        int length() {
+            int length = 0;
+            for (int item = 0; item < items.size(); item++) {
+                length = sumOf(length, lengthOf(items, item));
+            }
+            return length;
+        }
+
+        int idAt(int place) {
+            int item = rowWith(items, 0, items.size(), place);
+            return sumOf(items.at(item, FIRST_ID), place - lengthBefore(items, 0, item));
+        }
+
+        int messageAt(int place) {
+            int item = rowWith(items, 0, items.size(), place);
+            int part = items.at(item, PART);
+            int left = place - lengthBefore(items, 0, item);
+            for (int depth = 0; depth < MOST_PARTS && isRun(part); depth++) {
+                int first = parts.at(part, FIRST_PIECE);
+                int piece = rowWith(pieces, first, first + parts.at(part, PIECES), left);
+                part = pieces.at(piece, PART);
+                left -= lengthBefore(pieces, first, piece);
+            }
+            return part;
+        }
+
+        boolean isRun(int part) {
+            return parts.at(part, PIECES) > 0;
+        }
+
+        private int lengthOf(Table list, int row) {
+            return parts.at(list.at(row, PART), LENGTH);
+        }
+
+        /** The row of a list of parts, between two rows, that holds the message with this place among them. */
+        private int rowWith(Table list, int from, int to, int place) {
+            int left = place;
+            for (int row = from; row < to; row++) {
+                int length = lengthOf(list, row);
+                if (left < length) {
+                    return row;
+                }
+                left -= length;
+            }
+            return NONE;
+        }
+
+        private int lengthBefore(Table list, int from, int to) {
+            int length = 0;
+            for (int row = from; row < to; row++) {
+                length = sumOf(length, lengthOf(list, row));
+            }
+            return length;
+        }
+
+        // ---- what is put into it
+
+        /** Sends a part whose first message has this number. */
+        void addItem(int part, int firstId) {
+            int item = items.addRow();
+            items.put(item, PART, part);
+            items.put(item, FIRST_ID, firstId);
+        }
+
+        int addMessage(int kind, int host) {
+            int message = parts.addRow();
+            parts.put(message, HOST, host);
+            parts.put(message, KIND, kind);
+            parts.put(message, ANSWERS, NONE);
+            parts.put(message, LENGTH, 1);
+            parts.put(message, SENT_BY + host, 1);
+            parts.put(message, LATEST, message);
+            for (int place = 1; place < MOST_HOSTS; place++) {
+                parts.put(message, LATEST + place, NONE);
+            }
+            return message;
+        }
+
+        /** The part that is the message with the name and the DATA of a service, and a TTL. */
+        int messageOf(Table services, int service, int kind, int ttl) {
+            for (int part = 0; part < parts.size(); part++) {
+                boolean isOfKind = parts.at(part, KIND) == kind && parts.at(part, TTL) == ttl;
+                if (isOfKind && parts.isNamedAs(part, services, service)
+                    && parts.compareData(part, services, service) == 0) {
+                    return part;
+                }
+            }
+            int message = addMessage(kind, services.at(service, HOST));
+            parts.copyShared(message, services, service);
+            parts.put(message, TTL, ttl);
+            return message;
+        }
+
+        void addPiece(int part) {
+            if (part != NONE) {
+                pieces.put(pieces.addRow(), PART, part);
+            }
+        }
+
+        /** Makes a part of the pieces that were added since the latest run; NONE if there are none. */
+        int endRun() {
+            int first = ended;
+            int number = pieces.size() - first;
+            if (number < 2) {
+                int only = pieces.at(first, PART);
+                pieces.cutTo(first);
+                return only;
+            }
+            int run = parts.addRow();
+            for (int column = 0; column < SENT_BY; column++) {
+                parts.put(run, column, NONE);
+            }
+            for (int place = 0; place < MOST_HOSTS; place++) {
+                parts.put(run, LATEST + place, NONE);
+            }
+            parts.put(run, LENGTH, 0);
+            parts.put(run, FIRST_PIECE, first);
+            parts.put(run, PIECES, number);
+            for (int piece = first + number - 1; piece >= first; piece--) {
+                growRun(run, pieces.at(piece, PART));
+            }
+            ended = pieces.size();
+            return run;
+        }
+
+        /** Counts the messages of a piece as part of the run, of which the pieces behind it are counted already. */
+        private void growRun(int run, int part) {
+            parts.increaseBy(run, LENGTH, parts.at(part, LENGTH));
+            for (int host = 0; host < MOST_HOSTS; host++) {
+                parts.increaseBy(run, SENT_BY + host, parts.at(part, SENT_BY + host));
+            }
+            for (int place = 0; place < MOST_HOSTS; place++) {
+                int message = parts.at(part, LATEST + place);
+                if (message != NONE) {
+                    addLatest(run, message);
+                }
+            }
+        }
+
+        private void addLatest(int run, int message) {
+            for (int place = 0; place < MOST_HOSTS; place++) {
+                int later = parts.at(run, LATEST + place);
+                if (later == message) {
+                    return;
+                }
+                if (later == NONE) {
+                    parts.put(run, LATEST + place, message);
+                    return;
+                }
+            }
+        }
+
+        // ---- what hosts send back
+
+        /** Whether it is wanted, and not known, what hosts send back for a part in the present calm. */
+        boolean isToReply(int part, int calm) {
+            return parts.at(part, WANTED) == calm && parts.at(part, REPLIED) != calm;
+        }
+
+        void wantReply(int part, int calm) {
+            parts.put(part, WANTED, calm);
+            for (int run = part; run >= 0; run--) {
+                int first = parts.at(run, FIRST_PIECE);
+                int number = isToReply(run, calm) ? parts.at(run, PIECES) : 0;
+                for (int piece = first; piece < first + number; piece++) {
+                    parts.put(pieces.at(piece, PART), WANTED, calm);
+                }
+            }
+        }
+
+        void putReply(int part, int reply, int calm) {
+            parts.put(part, REPLY, reply);
+            parts.put(part, REPLIED, calm);
+        }
+    }
+
     /** The whole state of a link at a time, with all that it does in a tick. */
     private static final class Link {
-        // More than 512 calls can bring under way; what would not fit came to none.
-        private static final int MOST_MESSAGES = 16384;
+        // Far more than a part has pieces.
+        private static final int MOST_STEPS = 1000000, MOST_OPEN = 1 << 16;
 
         private final Table hosts;
         private final Table types;
         private final Table services;
         private final Table browsers;
-        private final Table messages;
         private final Table answers;
         private final Table marks;
         private final Table events;
         private final Table[] caches;
         private final Table noCache;
+        // Parts of an item of the due mail that have to come one by one, the next one last.
+        private final Table open;
+        // What was sent in the latest tick, and what has been sent since then.
+        private Mail due;
+        private Mail later;
         private int time;
         private int sent;
         private int lost;
@@ -837,8 +1074,8 @@ public final class LinkDirectory {
         private int conflicts;
         // Events so far: the row of an event is its number modulo 20, so that the latest ones are kept.
         private int noted;
-        // How many of the messages come in the next tick; those behind were sent by changes since the latest one.
-        private int due;
+        // A calm is a part of a tick in which no service changes as messages come: its number in the tick.
+        private int calm;
 
         Link() {
             int mostBrowsers = MOST_HOSTS * MOST_TYPES;
@@ -847,11 +1084,13 @@ public final class LinkDirectory {
             // One more than there may be: numberIf() tries a service beyond the twelve.
             services = new Table(SERVICE_COLUMNS, MOST_SERVICES + 1, MOST_SERVICES + 1);
             browsers = new Table(BROWSER_COLUMNS, mostBrowsers, mostBrowsers);
-            messages = new Table(MESSAGE_COLUMNS, 64, MOST_MESSAGES);
             answers = new Table(SHARED_COLUMNS, 32, mostBrowsers * MOST_RECORDS);
             marks = new Table(MARK_COLUMNS, MOST_MARKS, MOST_MARKS);
             events = new Table(EVENT_COLUMNS, MOST_EVENTS, MOST_EVENTS);
             noCache = new Table(RECORD_COLUMNS, 0, 0);
+            open = new Table(PIECE_COLUMNS, 32, MOST_OPEN);
+            due = new Mail();
+            later = new Mail();
             caches = new Table[MOST_HOSTS];
             for (int host = 0; host < caches.length; host++) {
                 caches[host] = new Table(RECORD_COLUMNS, MOST_RECORDS, MOST_RECORDS);
@@ -867,7 +1106,8 @@ public final class LinkDirectory {
             for (int browser = 0; browser < MOST_HOSTS * MOST_TYPES; browser++) {
                 browsers.addRow();
             }
-            messages.clear();
+            due.clear();
+            later.clear();
             answers.clear();
             marks.clear();
             events.clear();
@@ -883,7 +1123,7 @@ public final class LinkDirectory {
             renamings = 0;
             conflicts = 0;
             noted = 0;
-            due = 0;
+            calm = 0;
         }
 
         void copyFrom(Link other) {
@@ -891,7 +1131,8 @@ public final class LinkDirectory {
             types.copyFrom(other.types);
             services.copyFrom(other.services);
             browsers.copyFrom(other.browsers);
-            messages.copyFrom(other.messages);
+            due.copyFrom(other.due);
+            later.copyFrom(other.later);
             answers.copyFrom(other.answers);
             marks.copyFrom(other.marks);
             events.copyFrom(other.events);
@@ -904,7 +1145,7 @@ public final class LinkDirectory {
             renamings = other.renamings;
             conflicts = other.conflicts;
             noted = other.noted;
-            due = other.due;
+            calm = other.calm;
         }
 
         // ---- what there is
@@ -982,6 +1223,10 @@ public final class LinkDirectory {
 
         int eventsKept() {
             return Math.min(MOST_EVENTS, noted);
+        }
+
+        int messagesUnderWay() {
+            return sumOf(due.length(), later.length());
         }
 
         // ---- what hosts know
@@ -1091,38 +1336,173 @@ public final class LinkDirectory {
             recordsExpire();
             servicesAct();
             browsersAct();
-            due = messages.size();
+            Mail came = due;
+            due = later;
+            later = came;
             time++;
         }
 
         private void messagesCome() {
-            for (int message = 0; message < due; message++) {
-                int from = messages.at(message, HOST);
-                int kind = messages.at(message, KIND);
-                for (int host = 0; host < hosts.size(); host++) {
-                    boolean comes = host != from && isOn(host) && isOnSameSide(host, from);
-                    if (comes && kind == PROBE) {
-                        probeComes(message, host);
-                    } else if (comes && kind == RESPONSE) {
-                        responseComes(message, host);
-                    } else if (comes) {
-                        queryComes(message, host);
+            calm = 1;
+            for (int item = 0; item < due.items.size(); item++) {
+                openPart(due.items.at(item, PART));
+                for (int step = 0; open.size() > 0 && step < MOST_STEPS; step++) {
+                    int part = takeOpenPart();
+                    if (isCalm(part)) {
+                        findReply(part);
+                        sendReply(part);
+                        keepLatest(part);
+                        continue;
+                    }
+                    openPieces(part);
+                    int kind = due.parts.at(part, KIND);
+                    for (int host = 0; host < hosts.size(); host++) {
+                        boolean comes = comesTo(part, host);
+                        if (comes && kind == PROBE) {
+                            probeComes(part, host);
+                        } else if (comes && kind == RESPONSE) {
+                            responseComes(part, host);
+                        } else if (comes && kind == QUERY) {
+                            queryComes(part, host);
+                        }
                     }
                 }
             }
-            messages.dropFirst(due);
-            due = 0;
+            due.clear();
             // Only ticks send queries, so all known answers belong to the messages that came.
             answers.clear();
         }
 
+        /** Whether a message comes to a host; a run comes to none, only the messages in it do. */
+        private boolean comesTo(int message, int host) {
+            int from = due.parts.at(message, HOST);
+            return from != NONE && from != host && isOn(host) && isOnSameSide(host, from);
+        }
+
+        private void openPart(int part) {
+            open.put(open.addRow(), PART, part);
+        }
+
+        private int takeOpenPart() {
+            int part = open.at(open.size() - 1, PART);
+            open.cutTo(open.size() - 1);
+            return part;
+        }
+
+        private void openPieces(int run) {
+            int first = due.parts.at(run, FIRST_PIECE);
+            for (int piece = first + due.parts.at(run, PIECES) - 1; piece >= first; piece--) {
+                openPart(due.pieces.at(piece, PART));
+            }
+        }
+
+        // ---- parts that come as a whole
+
+        /** Whether all messages of a part are responses that change no service, and none that is sent back is lost. */
+        private boolean isCalm(int part) {
+            boolean isCalm = !hasMarkAhead();
+            for (int place = 0; isCalm && place < MOST_HOSTS; place++) {
+                int message = due.parts.at(part, LATEST + place);
+                isCalm = message == NONE || isCalmMessage(message);
+            }
+            return isCalm;
+        }
+
+        private boolean hasMarkAhead() {
+            for (int mark = 0; mark < marks.size(); mark++) {
+                if (marks.at(mark, MARKED) >= sent) {
+                    return true;
+                }
+            }
+            return false;
+        }
+
+        private boolean isCalmMessage(int message) {
+            boolean isCalm = due.parts.at(message, KIND) == RESPONSE && due.parts.at(message, TTL) > 0;
+            for (int service = 0; isCalm && service < services.size(); service++) {
+                if (services.isNamedAs(service, due.parts, message) && comesTo(message, services.at(service, HOST))) {
+                    boolean isProbing = services.at(service, STATE) == PROBING;
+                    boolean isSmaller = services.compareData(service, due.parts, message) < 0;
+                    isCalm = !isProbing && !(holdsName(service) && isSmaller);
+                }
+            }
+            return isCalm;
+        }
+
+        /** Finds what hosts send back for a part: first for the parts in it, which have lower rows. */
+        private void findReply(int part) {
+            if (due.parts.at(part, REPLIED) == calm) {
+                return;
+            }
+            due.wantReply(part, calm);
+            for (int inner = 0; inner <= part; inner++) {
+                if (due.isToReply(inner, calm)) {
+                    if (due.isRun(inner)) {
+                        replyToPieces(inner);
+                    } else {
+                        replyToMessage(inner);
+                    }
+                    due.putReply(inner, later.endRun(), calm);
+                }
+            }
+        }
+
+        private void replyToPieces(int run) {
+            int first = due.parts.at(run, FIRST_PIECE);
+            int behind = first + due.parts.at(run, PIECES);
+            for (int piece = first; piece < behind; piece++) {
+                later.addPiece(due.parts.at(due.pieces.at(piece, PART), REPLY));
+            }
+        }
+
+        private void replyToMessage(int message) {
+            for (int host = 0; host < hosts.size(); host++) {
+                for (int service = 0; comesTo(message, host) && service < services.size(); service++) {
+                    boolean replies = services.at(service, HOST) == host && holdsName(service)
+                        && services.isNamedAs(service, due.parts, message)
+                        && services.compareData(service, due.parts, message) > 0;
+                    if (replies) {
+                        int ttl = services.at(service, TTL);
+                        later.addPiece(later.messageOf(services, service, RESPONSE, ttl));
+                    }
+                }
+            }
+        }
+
+        private void sendReply(int part) {
+            int reply = due.parts.at(part, REPLY);
+            if (reply != NONE) {
+                later.addItem(reply, sent);
+                sent = sumOf(sent, later.parts.at(reply, LENGTH));
+                for (int host = 0; host < hosts.size(); host++) {
+                    hosts.increaseBy(host, SENT, later.parts.at(reply, SENT_BY + host));
+                }
+            }
+        }
+
+        /** Of several responses with the same name, the record of the latest one that comes to a host stays. */
+        private void keepLatest(int part) {
+            for (int host = 0; host < hosts.size(); host++) {
+                boolean isKept = false;
+                for (int place = 0; !isKept && place < MOST_HOSTS; place++) {
+                    int message = due.parts.at(part, LATEST + place);
+                    isKept = comesTo(message, host);
+                    if (isKept) {
+                        keepRecord(message, host);
+                    }
+                }
+            }
+        }
+
+        // ---- messages that come one by one
+
         private void probeComes(int message, int host) {
             for (int service = 0; service < services.size(); service++) {
-                if (services.at(service, HOST) == host && services.isNamedAs(service, messages, message)) {
+                if (services.at(service, HOST) == host && services.isNamedAs(service, due.parts, message)) {
                     boolean isProbing = services.at(service, STATE) == PROBING && services.at(service, PROBES) > 0;
                     if (holdsName(service)) {
                         sendFor(service, RESPONSE);
-                    } else if (isProbing && services.compareData(service, messages, message) < 0) {
+                    } else if (isProbing && services.compareData(service, due.parts, message) < 0) {
                         services.increase(service, LOST);
                         noteEvent(LOST_EVENT, service, services.at(service, NUMBER));
                         beginToProbe(service, time + 4);
@@ -1132,13 +1512,13 @@ public final class LinkDirectory {
         }
 
         private void responseComes(int message, int host) {
-            if (messages.at(message, TTL) == 0) {
+            if (due.parts.at(message, TTL) == 0) {
                 endRecord(message, host);
                 return;
             }
             for (int service = 0; service < services.size(); service++) {
-                if (services.at(service, HOST) == host && services.isNamedAs(service, messages, message)) {
-                    int order = services.compareData(service, messages, message);
+                if (services.at(service, HOST) == host && services.isNamedAs(service, due.parts, message)) {
+                    int order = services.compareData(service, due.parts, message);
                     if (services.at(service, STATE) == PROBING) {
                         renameService(service);
                         beginToProbe(service, time + 1);
@@ -1156,7 +1536,7 @@ public final class LinkDirectory {
         }
 
         private void queryComes(int message, int host) {
-            int type = messages.at(message, TYPE);
+            int type = due.parts.at(message, TYPE);
             for (int service = 0; service < services.size(); service++) {
                 boolean isAsked = services.at(service, HOST) == host && services.at(service, TYPE) == type;
                 if (isAsked && holdsName(service)) {
@@ -1170,8 +1550,8 @@ public final class LinkDirectory {
         }
 
         private boolean isKnownAnswer(int message, int service) {
-            int first = messages.at(message, FIRST_ANSWER);
-            int behind = first + messages.at(message, ANSWERS);
+            int first = due.parts.at(message, FIRST_ANSWER);
+            int behind = first + due.parts.at(message, ANSWERS);
             for (int answer = first; answer < behind; answer++) {
                 boolean isNamed = answers.isNamedAs(answer, services, service);
                 if (isNamed && answers.compareData(answer, services, service) == 0) {
@@ -1183,14 +1563,14 @@ public final class LinkDirectory {
 
         private void keepRecord(int message, int host) {
             Table cache = cacheOf(host);
-            int place = cache.placeNamedAs(messages, message);
+            int place = cache.placeNamedAs(due.parts, message);
             if (place == NONE) {
                 if (cache.size() >= MOST_RECORDS) {
                     cache.dropRow(firstToExpire(cache));
                 }
                 place = cache.addRow();
             }
-            cache.copyShared(place, messages, message);
+            cache.copyShared(place, due.parts, message);
             cache.put(place, BORN, time);
             cache.put(place, AGE, 0);
         }
@@ -1207,8 +1587,8 @@ public final class LinkDirectory {
 
         private void endRecord(int message, int host) {
             Table cache = cacheOf(host);
-            int place = cache.placeNamedAs(messages, message);
-            boolean isSame = place != NONE && cache.compareData(place, messages, message) == 0;
+            int place = cache.placeNamedAs(due.parts, message);
+            boolean isSame = place != NONE && cache.compareData(place, due.parts, message) == 0;
             if (isSame && cache.endOfRecord(place) > time + 1) {
                 cache.put(place, TTL, 1);
                 cache.put(place, BORN, time);
@@ -1305,6 +1685,7 @@ public final class LinkDirectory {
             services.put(service, STATE, PROBING);
             services.put(service, PROBES, 0);
             services.put(service, ALARM, alarm);
+            calm++;
         }
 
         private void renameService(int service) {
@@ -1335,48 +1716,49 @@ public final class LinkDirectory {
 
         /** Sends a probe, a response or a goodbye for a service. */
         private void sendFor(int service, int what) {
-            int message = newMessage(services.at(service, HOST), what == PROBE ? PROBE : RESPONSE);
-            messages.copyShared(message, services, service);
-            messages.put(message, ANSWERS, NONE);
-            if (what != RESPONSE) {
-                messages.put(message, TTL, what == GOODBYE ? 0 : NONE);
+            int number = sent;
+            int kind = what == PROBE ? PROBE : RESPONSE;
+            if (countMessage(services.at(service, HOST), kind)) {
+                int ttl = what == PROBE ? NONE : what == GOODBYE ? 0 : services.at(service, TTL);
+                later.addItem(later.messageOf(services, service, kind, ttl), number);
             }
         }
 
         private void sendQuery(int host, int type) {
-            int message = newMessage(host, QUERY);
+            int number = sent;
+            if (!countMessage(host, QUERY)) {
+                return;
+            }
             Table cache = cacheOf(host);
             int first = answers.size();
-            for (int place = 0; message != NONE && place < cache.size(); place++) {
+            for (int place = 0; place < cache.size(); place++) {
                 boolean isFresh = cache.endOfRecord(place) - time > cache.at(place, TTL) / 2;
                 if (isFresh && cache.at(place, TYPE) == type) {
                     answers.copyShared(answers.addRow(), cache, place);
                 }
             }
-            messages.put(message, HOST, host);
-            messages.put(message, TYPE, type);
-            messages.put(message, NUMBER, NONE);
-            messages.put(message, PORT, NONE);
-            messages.put(message, TTL, NONE);
-            messages.put(message, BASE, NONE);
-            messages.put(message, FIRST_ANSWER, first);
-            messages.put(message, ANSWERS, answers.size() - first);
+            int message = later.addMessage(QUERY, host);
+            later.parts.put(message, TYPE, type);
+            later.parts.put(message, NUMBER, NONE);
+            later.parts.put(message, PORT, NONE);
+            later.parts.put(message, TTL, NONE);
+            later.parts.put(message, BASE, NONE);
+            later.parts.put(message, FIRST_ANSWER, first);
+            later.parts.put(message, ANSWERS, answers.size() - first);
+            later.addItem(message, number);
         }
 
-        /** Counts a message as sent; answers its row, or NONE if it is lost. */
-        private int newMessage(int host, int kind) {
+        /** Counts a message as sent; answers whether it is on its way (it is lost if its number is marked). */
+        private boolean countMessage(int host, int kind) {
             int number = sent;
-            sent++;
+            sent = sumOf(sent, 1);
             hosts.increase(host, SENT);
-            if (marks.placeOf(MARKED, number) != NONE) {
-                lost++;
-                noteEvent(MESSAGE_LOST_EVENT, number, kind);
-                return NONE;
+            if (marks.placeOf(MARKED, number) == NONE) {
+                return true;
             }
-            int message = messages.addRow();
-            messages.put(message, KIND, kind);
-            messages.put(message, ID, number);
-            return message;
+            lost++;
+            noteEvent(MESSAGE_LOST_EVENT, number, kind);
+            return false;
         }
 
         private void noteEvent(int kind, int whose, int number) {

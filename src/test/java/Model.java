@@ -228,11 +228,11 @@ final class Model {
 
         void tick() {
             List<Message> coming = new ArrayList<>();
+            List<Message> staying = new ArrayList<>();
             for (Message message : underWay) {
-                if (message.time() == time - 1) {
-                    coming.add(message);
-                }
+                (message.time() == time - 1 ? coming : staying).add(message);
             }
+            underWay = staying;
             for (Message message : coming) {
                 for (int host = 0; host < hosts.size(); host++) {
                     Host to = hosts.get(host);
@@ -241,7 +241,6 @@ final class Model {
                     }
                 }
             }
-            underWay.removeAll(coming);
             for (int host = 0; host < hosts.size(); host++) {
                 List<Kept> alive = new ArrayList<>();
                 for (Kept kept : hosts.get(host).cache) {
