@@ -141,7 +141,7 @@ public final class LinkDirectory {
             case 1: return now.types.size();
             case 2: return now.services.size();
             case 3: return now.time;
-            case 4: return now.sent;
+            case 4: return intOf(now.sent);
             case 5: return now.lost;
             case 6: return now.messagesUnderWay();
             case 7: return now.browsersOfAll();
@@ -340,7 +340,7 @@ public final class LinkDirectory {
         for (int passed = 0; passed < ticks; passed++) {
             scratch.tick();
         }
-        return scratch.sent - now.sent;
+        return intOf(scratch.sent - now.sent);
     }
 
     public int freshIn() throws NoSuchElementException {
@@ -410,11 +410,11 @@ public final class LinkDirectory {
             throw new IllegalStateException("the time would be greater than 5000");
         }
         history.keep(now);
-        int sentBefore = now.sent;
+        long sentBefore = now.sent;
         for (int passed = 0; passed < ticks; passed++) {
             now.tick();
         }
-        return now.sent - sentBefore;
+        return intOf(now.sent - sentBefore);
     }
 
     public int add(int host, int type, int port, int ttl)
@@ -584,9 +584,8 @@ public final class LinkDirectory {
     // ---- numbers, words and signs
 
     // Messages can be more than an int tells: the greatest int stands for all greater numbers.
-    private static int sumOf(int number, int other) {
-        long sum = (long) number + other;
-        return sum > Integer.MAX_VALUE ? Integer.MAX_VALUE : (int) sum;
+    private static int intOf(long number) {
+        return number > Integer.MAX_VALUE ? Integer.MAX_VALUE : (int) number;
     }
 
     // A word of at most 6 letters is held in one int: five bits for each letter, the first letter lowest.
@@ -725,11 +724,11 @@ public final class LinkDirectory {
         }
 
         void increase(int row, int column) {
-            put(row, column, sumOf(at(row, column), 1));
+            put(row, column, intOf(at(row, column) + 1L));
         }
 
         void increaseBy(int row, int column, int number) {
-            put(row, column, sumOf(at(row, column), number));
+            put(row, column, intOf(at(row, column) + (long) number));
         }
 
         /** Adds a row of zeros; answers its number, or NONE if there is no room. */
@@ -873,16 +872,12 @@ public final class LinkDirectory {
         // ---- what is in it
 
         int length() {
-            int length = 0;
-            for (int item = 0; item < items.size(); item++) {
-                length = sumOf(length, lengthOf(items, item));
-            }
-            return length;
+            return lengthBefore(items, 0, items.size());
         }
 
         int idAt(int place) {
             int item = rowWith(items, 0, items.size(), place);
-            return sumOf(items.at(item, FIRST_ID), place - lengthBefore(items, 0, item));
+            return intOf((long) items.at(item, FIRST_ID) + place - lengthBefore(items, 0, item));
         }
 
         int messageAt(int place) {
@@ -920,11 +915,11 @@ public final class LinkDirectory {
         }
 
         private int lengthBefore(Table list, int from, int to) {
-            int length = 0;
+            long length = 0;
             for (int row = from; row < to; row++) {
-                length = sumOf(length, lengthOf(list, row));
+                length += lengthOf(list, row);
             }
-            return length;
+            return intOf(length);
         }
 
         // ---- what is put into it
@@ -1068,7 +1063,7 @@ public final class LinkDirectory {
         private Mail due;
         private Mail later;
         private int time;
-        private int sent;
+        private long sent;
         private int lost;
         private int renamings;
         private int conflicts;
@@ -1226,7 +1221,7 @@ public final class LinkDirectory {
         }
 
         int messagesUnderWay() {
-            return sumOf(due.length(), later.length());
+            return intOf((long) due.length() + later.length());
         }
 
         // ---- what hosts know
@@ -1472,8 +1467,8 @@ public final class LinkDirectory {
         private void sendReply(int part) {
             int reply = due.parts.at(part, REPLY);
             if (reply != NONE) {
-                later.addItem(reply, sent);
-                sent = sumOf(sent, later.parts.at(reply, LENGTH));
+                later.addItem(reply, intOf(sent));
+                sent += later.parts.at(reply, LENGTH);
                 for (int host = 0; host < hosts.size(); host++) {
                     hosts.increaseBy(host, SENT, later.parts.at(reply, SENT_BY + host));
                 }
@@ -1716,7 +1711,7 @@ public final class LinkDirectory {
 
         /** Sends a probe, a response or a goodbye for a service. */
         private void sendFor(int service, int what) {
-            int number = sent;
+            int number = intOf(sent);
             int kind = what == PROBE ? PROBE : RESPONSE;
             if (countMessage(services.at(service, HOST), kind)) {
                 int ttl = what == PROBE ? NONE : what == GOODBYE ? 0 : services.at(service, TTL);
@@ -1725,7 +1720,7 @@ public final class LinkDirectory {
         }
 
         private void sendQuery(int host, int type) {
-            int number = sent;
+            int number = intOf(sent);
             if (!countMessage(host, QUERY)) {
                 return;
             }
@@ -1750,8 +1745,8 @@ public final class LinkDirectory {
 
         /** Counts a message as sent; answers whether it is on its way (it is lost if its number is marked). */
         private boolean countMessage(int host, int kind) {
-            int number = sent;
-            sent = sumOf(sent, 1);
+            int number = intOf(sent);
+            sent++;
             hosts.increase(host, SENT);
             if (marks.placeOf(MARKED, number) == NONE) {
                 return true;

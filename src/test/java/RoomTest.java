@@ -22,6 +22,7 @@ public final class RoomTest {
             within("foretelling", isCounted, RoomTest::foretelling);
             within("changes", isCounted, RoomTest::changes);
             within("messages", isCounted, RoomTest::messages);
+            within("storm", isCounted, RoomTest::storm);
             within("errors", isCounted, RoomTest::errors);
         }
         Check.end();
@@ -70,13 +71,13 @@ public final class RoomTest {
         }
     }
 
-    /** As many messages at once as calls can bring about: each response of a is answered by five hosts. */
+    /** Very many parts: each response of a is answered by five hosts, and all that is under way is kept ten times. */
     private static void messages() {
         LinkDirectory x = Check.loaded(SIX);
         x.pass(11);
         Check.same("all six are established", 15, x.clashes());
         for (int call = 0; call < 450; call++) {
-            x.setPort(0, 1);
+            x.setPort(0, 1 + call % 2);
         }
         x.pass(1);
         int most = 0;
@@ -91,6 +92,28 @@ public final class RoomTest {
             x.undo();
             x.pass(1);
         }
+    }
+
+    /** As many messages as calls can bring about: all that is under way is answered by five hosts in each tick. */
+    private static void storm() {
+        LinkDirectory x = Check.loaded(SIX);
+        x.pass(11);
+        for (int call = 0; call < 60; call++) {
+            x.setPort(0, 1 + call);
+        }
+        for (int port = 601; port < 655; port++) {
+            for (int service = 0; service < 6; service++) {
+                x.setPort(service, port);
+            }
+            x.pass(1);
+            if (port > 652) {
+                x.save(port % 2);
+                x.messagesIn(100);
+            }
+        }
+        Check.same("more messages than an int tells", Integer.MAX_VALUE, x.count(6));
+        x.pass(100);
+        Check.same("all have come", 0, x.count(6));
     }
 
     private static void errors() {

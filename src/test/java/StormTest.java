@@ -18,11 +18,114 @@ public final class StormTest extends ModelRun {
     public static void main(String[] args) {
         int runs = args.length > 0 ? Integer.parseInt(args[0]) : 100;
         int first = args.length > 1 ? Integer.parseInt(args[1]) : 0;
+        new StormTest(0).manyMessages();
+        moreThanNumbersTell();
         for (int run = first; run < first + runs; run++) {
             new StormTest(run).run();
         }
         Check.end();
     }
+
+    // ---- runs that are told
+
+    /** Six established services of a name; each response is answered by the five others if their ports are raised. */
+    private static String sixServices() {
+        StringBuilder text = new StringBuilder("hosts a b c d e f;types t;");
+        for (int host = 0; host < 6; host++) {
+            text.append("service ").append((char) ('a' + host)).append(" t x ").append(host + 1).append(" 99;");
+        }
+        text.append("lose");
+        for (int message = 0; message < 30; message++) {
+            text.append(' ').append(message);
+        }
+        return text.append(';').toString();
+    }
+
+    private void manyMessages() {
+        put(sixServices());
+        change("load");
+        change("pass", 11);
+        change("setPort", 0, 1);
+        change("pass", 1);
+        change("pass", 1);
+        for (port = 7; port <= 11; port++) {
+            raiseAll();
+        }
+        Check.same("messages under way", 20311, number("count", 6));
+        compareAll();
+        foretellAll();
+        change("save", 1);
+        raiseAll();
+        Check.same("messages a tick later", 101561, number("count", 6));
+        compareAll();
+        for (int times = 0; times < 7; times++) {
+            change("undo");
+        }
+        Check.same("messages after undo()", 20311, number("count", 6));
+        compareAll();
+        change("pass", 1);
+        compareAll();
+        change("restore", 1);
+        Check.same("messages after restore()", 20311, number("count", 6));
+        compareAll();
+        change("setSide", 2, 1);
+        change("withdraw", 1);
+        change("setOn", 3, false, true);
+        for (int ticks = 0; ticks < 4; ticks++) {
+            change("pass", 1);
+            compareAll();
+        }
+        end();
+    }
+
+    private void raiseAll() {
+        for (int service = 0; service < 6; service++) {
+            change("setPort", service, port);
+        }
+        change("pass", 1);
+    }
+
+    private void foretellAll() {
+        for (int service = 0; service < 6; service++) {
+            call("establishedIn", service);
+            call("numberIn", service, 1 + service);
+            call("knownIn", 5 - service, service);
+            call("messagesIn", service);
+        }
+        call("messagesIn", 100);
+        call("freshIn");
+        call("numberIf", 0, 0, 0, 500);
+    }
+
+    /** The greatest int stands for greater numbers, and all calls still answer. */
+    private static void moreThanNumbersTell() {
+        LinkDirectory x = Check.loaded(sixServices());
+        x.pass(11);
+        int most = Integer.MAX_VALUE;
+        for (int port = 7; port < 67; port++) {
+            for (int service = 0; service < 6; service++) {
+                x.setPort(service, port);
+            }
+            x.pass(1);
+        }
+        Check.due("messages sent", most, () -> x.count(4));
+        Check.due("messages under way", most, () -> x.count(6));
+        Check.due("messages of a host", most, () -> x.host(3, 5));
+        Check.due("the last message that has a place", 66, () -> x.message(most - 1, 5));
+        Check.due("no message has this place", Check.THROWS_INDEX, () -> x.message(most, 5));
+        Check.due("a message that was sent", Check.THROWS_STATE, () -> x.mark(999));
+        Check.due("messages to come", most, () -> x.messagesIn(1));
+        x.pass(100);
+        Check.due("all have come", 0, () -> x.count(6));
+        Check.put(x, "y");
+        Check.due("a new service", 6, () -> x.add(0, 0, 1, 100));
+        Check.due("its probe is foretold", 1, () -> x.messagesIn(1));
+        Check.due("its probe is sent", 1, () -> x.pass(1));
+        Check.due("the number of its probe", most, () -> x.message(0, 1));
+        Check.due("messages sent", most, () -> x.count(4));
+    }
+
+    // ---- runs that are chosen by a row of numbers
 
     private void run() {
         put(text());
