@@ -13,7 +13,7 @@ public final class LinkDirectory {
     private static final int MOST_HOSTS = 6, MOST_TYPES = 4, MOST_SERVICES = 12;
     private static final int MOST_RECORDS = 16, MOST_MARKS = 30, MOST_EVENTS = 20;
     private static final int MOST_UNDONE = 8, SLOTS = 2;
-    private static final int MOST_MESSAGE = 999;
+    private static final int MOST_MESSAGE = 999, MOST_INT = 0x7fffffff;
     private static final int LEAST_PORT = 1, MOST_PORT = 999, LEAST_TTL = 20, MOST_TTL = 1000;
     private static final int SUPPOSED_TTL = 100;
     private static final int MOST_LETTERS = 6, LETTER_BITS = 5;
@@ -585,7 +585,7 @@ public final class LinkDirectory {
 
     // Messages can be more than an int tells: the greatest int stands for all greater numbers.
     private static int intOf(long number) {
-        return number > Integer.MAX_VALUE ? Integer.MAX_VALUE : (int) number;
+        return number > MOST_INT ? MOST_INT : (int) number;
     }
 
     // A word of at most 6 letters is held in one int: five bits for each letter, the first letter lowest.
