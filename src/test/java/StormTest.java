@@ -19,6 +19,7 @@ public final class StormTest extends ModelRun {
         int runs = args.length > 0 ? Integer.parseInt(args[0]) : 100;
         int first = args.length > 1 ? Integer.parseInt(args[1]) : 0;
         new StormTest(0).manyMessages();
+        new StormTest(0).twoOfSix();
         moreThanNumbersTell();
         for (int run = first; run < first + runs; run++) {
             new StormTest(run).run();
@@ -95,6 +96,58 @@ public final class StormTest extends ModelRun {
         call("messagesIn", 100);
         call("freshIn");
         call("numberIf", 0, 0, 0, 500);
+    }
+
+    /**
+     * Each of six hosts answers in the same storm; as it comes, two of them are on a side of their own, so that each
+     * of the two hears the other one alone, whether it was the first or the last one that answered.
+     */
+    private void twoOfSix() {
+        put("hosts a b c d e f;types t;");
+        change("load");
+        for (int host = 0; host < 6; host++) {
+            // The others are on the other side until its last response has come, so that all can have the same name.
+            change("setSide", host, 1);
+            put("x");
+            change("add", host, 0, 2 + host, 99);
+            change("pass", 12);
+            change("setSide", host, 0);
+        }
+        change("setPort", 0, 1);
+        change("pass", 1);
+        change("pass", 1);
+        raiseUnheard(10);
+        change("pass", 1);
+        Check.same("messages of all six", 25, number("count", 6));
+        change("save", 0);
+        for (int one = 0; one < 6; one++) {
+            for (int other = one + 1; other < 6; other++) {
+                part(one, other, true);
+                part(one, other, false);
+            }
+        }
+        end();
+    }
+
+    private void part(int one, int other, boolean areRaised) {
+        change("restore", 0);
+        change("setSide", one, 1);
+        change("setSide", other, 1);
+        if (areRaised) {
+            raiseUnheard(11);
+        }
+        change("pass", 1);
+        compareAll();
+        change("pass", 1);
+        compareAll();
+    }
+
+    /** Raises all ports; the responses that this sends are lost. */
+    private void raiseUnheard(int newPort) {
+        for (int service = 0; service < 6; service++) {
+            change("mark", number("count", 4));
+            change("setPort", service, newPort);
+        }
     }
 
     /** The greatest int stands for greater numbers, and all calls still answer. */
@@ -273,7 +326,12 @@ public final class StormTest extends ModelRun {
             text.append("browse ").append((char) ('a' + more - 1)).append(" t;");
         }
         text.append("lose");
-        for (int message = 0; message < Math.min(30, 5 * (hosts + owners.size())); message++) {
+        int lost = Math.min(30, 5 * (hosts + owners.size()));
+        if (lost < 30 && dice.isOneIn(4)) {
+            // A mark that is ahead stands before those that are past.
+            text.append(' ').append(dice.from(100, 600));
+        }
+        for (int message = 0; message < lost; message++) {
             text.append(' ').append(message);
         }
         return text.append(';').toString();
