@@ -69,8 +69,20 @@ final class Check {
     static void same(String what, String want, String got) {
         compared++;
         if (!want.equals(got)) {
-            tell(what + ":\nanswered " + got + "\n  due is " + want);
+            tell(what + ": " + difference(want, got));
         }
+    }
+
+    /** The first line that differs. */
+    private static String difference(String want, String got) {
+        String[] wanted = want.split("\n", -1);
+        String[] gotten = got.split("\n", -1);
+        int line = 0;
+        while (line < wanted.length && line < gotten.length && wanted[line].equals(gotten[line])) {
+            line++;
+        }
+        return "line " + (line + 1) + " is\n    " + (line < gotten.length ? gotten[line] : "missing") + "\n  due is\n    "
+            + (line < wanted.length ? wanted[line] : "nothing");
     }
 
     static void tell(String what) {
