@@ -6,7 +6,7 @@ public final class BoundsOfChangesTest {
     private static final int NONE = LinkDirectory.NONE;
     private static final long STATE = Check.THROWS_STATE;
     private static final long ELEMENT = Check.THROWS_ELEMENT;
-    private static final Stage LIVELY = new Stage("a lively link", BoundsOfChangesTest::lively);
+    private static final Stage LIVELY = new Stage("a lively link", Scenes::lively);
 
     private BoundsOfChangesTest() {
     }
@@ -30,18 +30,6 @@ public final class BoundsOfChangesTest {
         addedWhileOff();
         browsedAlready();
         Check.end();
-    }
-
-    /** A link on which something of everything has happened: losses, a conflict, renamings, and records that expired. */
-    private static LinkDirectory lively() {
-        LinkDirectory x = Check.loaded("hosts a b c;types t u;service a t x 5 20;service b t x 6 90;service c u y 7 80;"
-            + "browse a t;browse c u;lose 9 50;");
-        x.setSide(0, 1);
-        x.pass(12);
-        x.setSide(0, 0);
-        x.setPort(1, 6);
-        x.pass(40);
-        return x;
     }
 
     private static long answer(Stage.CallOn call, LinkDirectory x) {
@@ -156,7 +144,7 @@ public final class BoundsOfChangesTest {
 
     private static void eachChange() {
         Stage.CallOn[] changes = changes();
-        String before = View.of(BoundsOfChangesTest::lively);
+        String before = View.of(Scenes::lively);
         for (int change = 0; change < changes.length; change++) {
             Stage.CallOn call = changes[change];
             Stage behind = LIVELY.behind("change " + change, call);

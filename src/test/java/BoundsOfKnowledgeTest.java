@@ -17,6 +17,7 @@ public final class BoundsOfKnowledgeTest {
         kindsOfMessages();
         kindsOfEvents();
         known();
+        sixHosts();
         stale();
         clashes();
         noPairs();
@@ -157,6 +158,23 @@ public final class BoundsOfKnowledgeTest {
         });
         two.shown("that of b", 6, x -> x.known(2, 1));
         two.shown("not that of a", NONE, x -> x.known(2, 0));
+    }
+
+    /** All of six hosts hear, keep and forget. */
+    private static void sixHosts() {
+        for (int host = 0; host < 6; host++) {
+            int of = host;
+            Stage six = Stage.of("hosts a b c d e f;types t;service " + "abcdef".charAt(host) + " t x 5 20;", 12);
+            for (int other = 0; other < 6; other++) {
+                int at = other;
+                int records = other == host ? 0 : 1;
+                six.due("records of " + other, records, x -> x.host(at, 3));
+                six.due("known to " + other, records == 1 ? 5 : NONE, x -> x.known(at, 0));
+                six.due("20 ticks later", 0, x -> Stage.passed(x, 20).host(at, 3));
+            }
+            covers(six, "five of five", 1.0);
+            six.due("stale at five hosts", 5, x -> off(x, of) * 0 + x.stale());
+        }
     }
 
     /** stale(): a service that is announcing or established, with name and PORT, and whose host is on. */

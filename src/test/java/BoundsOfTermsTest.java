@@ -22,6 +22,7 @@ public final class BoundsOfTermsTest {
         lostByNumber();
         lostKinds();
         lostNumbers();
+        lostOfMany();
         sixteenRecords();
         replacedRecords();
         expiry();
@@ -356,6 +357,29 @@ public final class BoundsOfTermsTest {
         is("no more are lost", 27, x.count(5));
     }
 
+    /** Whichever of many messages is marked, be it sent by a change or as an answer, it is lost, and no other one. */
+    private static void lostOfMany() {
+        for (int lost = 29; lost <= 55; lost++) {
+            int message = lost;
+            Stage storm = new Stage("message " + lost + " is marked", () -> {
+                LinkDirectory x = Scenes.storm(1);
+                Check.answerOf((Check.Call) () -> x.mark(message));
+                Scenes.stormOn(x, 11);
+                return x;
+            });
+            // 30 messages were sent before; the ports are changed by 30 to 34, and the answers are 35 to 54.
+            boolean isLost = lost >= 30 && lost <= 54;
+            storm.due("sent", 55, x -> x.count(4));
+            storm.due("lost", isLost ? 26 : 25, x -> x.count(5));
+            storm.due("under way", isLost ? 24 : 25, x -> x.count(6));
+            for (int place = 0; place < 24; place++) {
+                int at = place;
+                storm.due("the number of " + place, 30 + place + (isLost && 30 + place >= lost ? 1 : 0), x -> x.message(at, 1));
+            }
+            storm.due("of all hosts", 55, x -> x.host(0, 5) + x.host(1, 5) + x.host(2, 5) + x.host(3, 5) + x.host(4, 5));
+        }
+    }
+
     // ---- records
 
     /** The names of the records of a host, in their order. */
@@ -368,35 +392,42 @@ public final class BoundsOfTermsTest {
         return names.toString();
     }
 
+    private static void names(Stage stage, String what, String want, int host) {
+        Check.same(what, want, names(stage.make(), host));
+    }
+
+    /** One more service of a, and so many ticks. */
+    private static Stage withOne(Stage stage, String base, int ttl, int ticks) {
+        return stage.behind(base, x -> Scenes.addTo(x, base, ttl) + x.pass(ticks));
+    }
+
     /** "If there are 16 already, the one that expires first (of several the first one) goes." */
     private static void sixteenRecords() {
-        LinkDirectory x = Scenes.fifteenRecords();
-        String fifteen = "x w y z x-2 w-2 x-3 w-3 x-4 w-4 v x-5 w-5 x-6 w-6";
-        Check.same("15 records", fifteen, names(x, 2));
-        is("y expires", 611, x.record(2, 2, 7));
-        is("z expires", 611, x.record(2, 3, 7));
-        is("the TTL of v", 560, x.record(2, 10, 4));
-        is("v expires later", 1, x.record(2, 10, 7) > 611 ? 1 : 0);
-        Scenes.addTo(x, "p", 1000);
-        x.pass(8);
-        Check.same("a 16th record: none goes", fifteen + " p", names(x, 2));
-        Scenes.addTo(x, "q", 1000);
-        x.pass(8);
-        Check.same("a 17th name: the first one that expires first goes",
-            fifteen.replace(" y", "") + " p q", names(x, 2));
-        x.pass(8);
-        Check.same("a response with a name that is there: none goes",
-            fifteen.replace(" y", "") + " p q", names(x, 2));
-        Scenes.addTo(x, "r", 1000);
-        x.pass(12);
-        Check.same("then the other one goes", fifteen.replace(" y z", "") + " p q r", names(x, 2));
-        Scenes.addTo(x, "s", 20);
-        x.pass(12);
-        Check.same("then v goes", fifteen.replace(" y z", "").replace(" v", "") + " p q r s", names(x, 2));
-        Scenes.addTo(x, "o", 20);
-        x.pass(8);
-        Check.same("the last one goes, which expires first now",
-            fifteen.replace(" y z", "").replace(" v", "") + " p q r o", names(x, 2));
+        Stage fifteen = new Stage("15 records", Scenes::fifteenRecords);
+        String all = "x w y z x-2 w-2 x-3 w-3 x-4 w-4 v x-5 w-5 x-6 w-6";
+        names(fifteen, "15 records", all, 2);
+        fifteen.due("y expires", 611, x -> x.record(2, 2, 7));
+        fifteen.due("z expires", 611, x -> x.record(2, 3, 7));
+        fifteen.due("the TTL of v", 560, x -> x.record(2, 10, 4));
+        fifteen.due("v expires later", 625, x -> x.record(2, 10, 7));
+        fifteen.due("x and w expire at the same time", 0, x -> x.record(2, 0, 7) - x.record(2, 1, 7));
+        Stage sixteen = withOne(fifteen, "p", 1000, 8);
+        names(sixteen, "a 16th record: none goes", all + " p", 2);
+        Stage more = withOne(sixteen, "q", 1000, 8);
+        names(more, "a 17th name: the first one that expires first goes", all.replace(" y", "") + " p q", 2);
+        more = more.behind("8 ticks", x -> x.pass(8));
+        names(more, "a response with a name that is there: none goes", all.replace(" y", "") + " p q", 2);
+        more = withOne(more, "r", 1000, 12);
+        names(more, "then the other one goes", all.replace(" y z", "") + " p q r", 2);
+        more = withOne(more, "s", 1000, 12);
+        String twelve = all.replace(" y z", "").replace(" v", "");
+        names(more, "then v goes", twelve + " p q r s", 2);
+        more = withOne(more, "o", 1000, 12);
+        names(more, "then the first of all goes", twelve.replace("x w ", "w ") + " p q r s o", 2);
+        // The last one goes if it expires first.
+        Stage last = withOne(fifteen, "p", 20, 8);
+        names(last, "a 16th record", all + " p", 2);
+        names(withOne(last, "q", 20, 8), "the last one goes", all + " q", 2);
     }
 
     /** A record stands "in place of one with the same name, or otherwise behind its other records". */
@@ -432,6 +463,16 @@ public final class BoundsOfTermsTest {
             Stage.of(text, 12 + ttl).due("the event", 4, x -> x.log(0, 0));
             Stage.of(text, 12 + ttl).due("its time", 11 + ttl, x -> x.log(0, 1));
         }
+        // The same at the other host, which is the first one; the records behind one that is removed move up.
+        String[] of = {"x y z", "x z", "z", ""};
+        int[] times = {31, 32, 37, 42};
+        for (int end = 0; end < of.length; end++) {
+            LinkDirectory x = Check.loaded("hosts a b;types t;service b t x 5 25;service b t y 5 20;service b t z 5 30;");
+            Stage.passed(x, times[end]);
+            Check.same("records of a at " + times[end], of[end], names(x, 0));
+            Stage.passed(x, end == 0 ? 1 : 0);
+            is("events of records", Math.max(1, end), eventsOf(x, 4));
+        }
         // A response that comes in the tick of its end renews it, one that comes a tick later is too late.
         for (int late = 0; late <= 1; late++) {
             LinkDirectory x = Stage.passed(Check.loaded("hosts a b;types t;service a t x 5 20;"), 30 + late);
@@ -440,6 +481,14 @@ public final class BoundsOfTermsTest {
             recordIs("renewed", x, 1, 0, 0, 0, 5, 0, 20, 31 + late, 0, 51 + late);
             is("an event of its end", late, x.log(0, 0) == 4 ? 1 : 0);
         }
+    }
+
+    private static int eventsOf(LinkDirectory x, int kind) {
+        int found = 0;
+        for (int event = 0; event < x.count(10); event++) {
+            found += x.log(event, 0) == kind ? 1 : 0;
+        }
+        return found;
     }
 
     /** A goodbye counts for a record "that expires later than t + 1": this one expires at 31. */
@@ -636,16 +685,19 @@ public final class BoundsOfTermsTest {
                 }
             }
         }
-        // A withdrawn service has no conflict, and it does not answer.
-        LinkDirectory y = Scenes.joined(5, 6);
-        y.withdraw(1);
-        y.pass(3);
-        int sent = y.count(4);
-        y.setPort(0, 7);
-        y.pass(3);
-        is("one response alone", sent + 1, y.count(4));
-        is("no conflict", 0, y.count(9));
-        is("withdrawn still", 3, y.service(1, 5));
+        // A withdrawn service has no conflict, and it does not answer, whatever its DATA are.
+        for (int port : new int[] {1, 5, 6, 7, 999}) {
+            LinkDirectory y = Scenes.joined(5, 6);
+            y.withdraw(1);
+            y.pass(3);
+            int sent = y.count(4);
+            y.setPort(0, port);
+            y.pass(3);
+            is("one response alone", sent + 1, y.count(4));
+            is("no conflict", 0, y.count(9));
+            is("no renaming", 0, y.count(8));
+            is("withdrawn still", 3, y.service(1, 5));
+        }
     }
 
     /** "A goodbye is only put into the cache": it renames nothing, and it is no conflict. */
@@ -743,6 +795,24 @@ public final class BoundsOfTermsTest {
         w.pass(1);
         is("16 known answers", 16, w.message(w.count(6) - 1, 7));
         is("none answers", 0, w.pass(1));
+        // Five hosts ask again and again; each query has the records as known answers that are alive for long enough.
+        Stage full = new Stage("five that ask", Scenes::full).behind("browsing", x -> x.browse(0, 3, true)
+            + x.browse(1, 3, true) + x.browse(2, 3, true) + x.browse(3, 3, true) + x.browse(4, 3, true));
+        int time = 12;
+        for (int ask = 0; ask < 16; ask++) {
+            int ticks = time + 1 - 12;
+            LinkDirectory v = Stage.passed(full.make(), ticks);
+            int first = v.count(6) - 5 - (v.message(v.count(6) - 1, 2) == 5 ? 1 : 0);
+            for (int host = 0; host < 5; host++) {
+                int alive = 0;
+                for (int place = 0; place < v.host(host, 3); place++) {
+                    alive += v.record(host, place, 7) - time > v.record(host, place, 4) / 2 ? 1 : 0;
+                }
+                is("the query of " + host + " at " + time, host, v.message(first + host, 2));
+                is("its known answers", alive, v.message(first + host, 7));
+            }
+            time += Math.min(64, 2 << ask);
+        }
         // The same name and PORT at another host is another answer.
         LinkDirectory z = Check.loaded("hosts a b c;types t;service a t x 6 100;service b t x 6 100;");
         z.setSide(0, 1);
@@ -755,34 +825,41 @@ public final class BoundsOfTermsTest {
         is("it is a", 0, z.message(0, 2));
     }
 
+    /** A record that is born at 11, and a browser that asks at 13, 15, 19, 27, 43, 75 and every 64 ticks from then on. */
+    private static Stage refreshed(int ttl, int time) {
+        return Stage.of("hosts a b;types t;service a t x 5 " + ttl + ";", 13).behind("browsed until " + time, x -> {
+            x.setOn(0, false, false);
+            x.browse(1, 0, true);
+            return Stage.passed(x, time - 13).count(3);
+        });
+    }
+
     /** A record is refreshed from BORN + TTL * (80 + 5 * AGE) / 100 on, as long as its AGE is below 4. */
     private static void refreshTimes() {
         for (int ttl : new int[] {20, 33, 39, 61, 100, 101, 119, 999, 1000}) {
-            LinkDirectory x = Check.loaded("hosts a b;types t;service a t x 5 " + ttl + ";");
-            x.pass(13);
-            x.setOn(0, false, false);
-            x.browse(1, 0, true);
-            // It asks at 13, 15, 19, 27, 43, 75, and every 64 ticks from then on.
             int age = 0;
             int refreshes = 0;
-            int expires = 11 + ttl;
-            for (int time = 13; time < expires; time++) {
+            int asks = 13;
+            int interval = 2;
+            for (int time = 13; time < 11 + ttl; time++) {
                 boolean isDue = age < 4 && time >= 11 + ttl * (80 + 5 * age) / 100;
-                boolean isTime = time == x.browser(1, 0, 0);
+                boolean isTime = time == asks;
                 age += isDue ? 1 : 0;
                 refreshes += isDue && !isTime ? 1 : 0;
-                boolean isNear = isDue || time + 1 >= 11 + ttl * (80 + 5 * Math.min(3, age)) / 100;
-                int sent = x.pass(1);
-                if (isNear || isTime) {
-                    String what = "TTL " + ttl + ", tick " + time;
-                    is(what + ": queries", isDue || isTime ? 1 : 0, sent);
-                    is(what + ": AGE", age, x.record(1, 0, 6));
-                    is(what + ": refreshes", refreshes, x.browser(1, 0, 3));
+                asks += isTime ? interval : 0;
+                interval = isTime ? Math.min(64, interval * 2) : interval;
+                boolean isNear = time + 1 >= 11 + ttl * (80 + 5 * Math.min(3, age)) / 100;
+                if (isDue || isTime || isNear) {
+                    Stage stage = refreshed(ttl, time);
+                    stage.due("queries", isDue || isTime ? 1 : 0, x -> x.pass(1));
+                    Stage behind = stage.behind("a tick", x -> x.pass(1));
+                    behind.due("AGE", age, x -> x.record(1, 0, 6));
+                    behind.due("refreshes", refreshes, x -> x.browser(1, 0, 3));
+                    behind.due("TIME", asks, x -> x.browser(1, 0, 0));
                 }
             }
-            is("TTL " + ttl + ": AGE at last", 4, x.record(1, 0, 6));
-            x.pass(1);
-            is("TTL " + ttl + ": expired", 0, x.host(1, 3));
+            refreshed(ttl, 11 + ttl).due("AGE at last", 4, x -> x.record(1, 0, 6));
+            refreshed(ttl, 12 + ttl).due("expired", 0, x -> x.host(1, 3));
         }
     }
 

@@ -41,15 +41,11 @@ public final class BoundsOfTextTest {
 
     /** A state with something of everything, so that it shows if a text with an error changes anything. */
     private static LinkDirectory before() {
-        LinkDirectory x = Check.loaded("hosts h i;types t u;service h t x 80 100;service i t x 90 100;browse h t;lose 3;");
-        x.pass(9);
+        LinkDirectory x = Scenes.lively();
         x.save(1);
         x.setPort(1, 91);
         x.setOn(0, false, false);
         x.write();
-        // What is foretold must not come into the state of a text, either.
-        x.numberIf(1, 1, 0, 5);
-        x.messagesIn(100);
         return x;
     }
 
@@ -483,13 +479,14 @@ public final class BoundsOfTextTest {
         String[] texts = {"hosts a;types t;", SERVICE + "service b t x 6 60;browse a t;lose 2;",
             services(12) + "browse a t;lose 3;", "hosts q r s t u v;types t u v w;"};
         for (String text : texts) {
-            String onNew = View.of(() -> Check.loaded(text)).replaceAll("output[^\n]*", "");
-            String onOld = View.of(() -> {
-                LinkDirectory x = before();
-                load(x, text);
-                return x;
-            }).replaceAll("output[^\n]*", "");
-            Check.same("the state for " + text, onNew, onOld);
+            Check.same("the state for " + text, withoutOutput(View.of(() -> Check.loaded(text))),
+                withoutOutput(BEFORE.viewBehind(x -> load(x, text))));
+            // Nor must anything come into it of what was foretold before.
+            for (int ticks : new int[] {0, 1, 2, 3, 5, 10, 11, 12, 30, 31, 32, 100}) {
+                Check.same("behind foretelling " + ticks + ", the state for " + text, withoutOutput(View.of(() ->
+                    Check.loaded(text))), withoutOutput(new Stage("foretold", Scenes::lively)
+                        .viewBehind(x -> x.messagesIn(ticks) + load(x, text))));
+            }
             for (int what = 3; what <= 11; what++) {
                 int at = what;
                 boolean isBrowsers = what == 7;
@@ -502,5 +499,9 @@ public final class BoundsOfTextTest {
                 fine(text, "the slot", Check.THROWS_ELEMENT, x -> Check.answerOf((Check.Deed) () -> x.restore(at)));
             }
         }
+    }
+
+    private static String withoutOutput(String view) {
+        return view.replaceAll("output[^\n]*", "");
     }
 }

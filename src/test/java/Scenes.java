@@ -13,6 +13,18 @@ final class Scenes {
         return x;
     }
 
+    /** At 52, when something of everything has happened: losses, a conflict, renamings, and records that expired. */
+    static LinkDirectory lively() {
+        LinkDirectory x = Check.loaded("hosts a b c;types t u;service a t x 5 20;service b t x 6 90;service c u y 7 80;"
+            + "browse a t;browse c u;lose 9 50;");
+        x.setSide(0, 1);
+        x.pass(12);
+        x.setSide(0, 0);
+        x.setPort(1, 6);
+        x.pass(40);
+        return x;
+    }
+
     /** The time, with a service of a that is established and known to b. */
     static LinkDirectory atTime(int time) {
         return Stage.passed(Check.loaded("hosts a b;types t;service a t x 80 1000;"), time);
@@ -20,7 +32,7 @@ final class Scenes {
 
     /**
      * The cache of c with 15 records: x and w, each with six NUMBERs, y, z and v. Of these y and z expire first, both
-     * at 611; v expires later, at 631, though its TTL is smaller; x and w are older than these, and have the TTL 1000.
+     * at 611; v expires later, at 625, though its TTL is smaller; x and w are older than these, and have the TTL 1000.
      */
     static LinkDirectory fifteenRecords() {
         LinkDirectory x = Check.loaded("hosts a b c;types t;service a t x 5 1000;service b t x 6 1000;"
