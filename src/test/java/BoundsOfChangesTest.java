@@ -568,6 +568,12 @@ public final class BoundsOfChangesTest {
                 return x.browser(0, 0, at);
             });
         }
+        // At 27 the record is refreshed: the fifth query, and the first one of this kind.
+        Stage refreshed = Stage.of("hosts a b;types t;service a t x 5 20;browse b t;", 28);
+        refreshed.due("queries", 5, x -> x.browser(1, 0, 2));
+        refreshed.due("refreshes", 1, x -> x.browser(1, 0, 3));
+        refreshed.due("queries of a new browser", 0, x -> x.browse(1, 0, false) * x.browse(1, 0, true) + x.browser(1, 0, 2));
+        refreshed.due("refreshes of it", 0, x -> x.browse(1, 0, false) * x.browse(1, 0, true) + x.browser(1, 0, 3));
         browsing.due("one type still", 1, x -> x.browse(0, 0, true));
         browsing.due("two types", 2, x -> x.browse(0, 1, true));
         browsing.due("no type", 0, x -> x.browse(0, 0, false));

@@ -28,11 +28,13 @@ public final class BoundsOfTermsTest {
         expiry();
         lateGoodbyes();
         goodbyesOfOthers();
+        agesOfGoodbyes();
         probesMeetProbing();
         probesMeetOthers();
         lostUntilAlarm();
         responsesMeetProbing();
         responsesMeetOthers();
+        responseMeetsMany();
         goodbyesMeetServices();
         queriesMeetServices();
         halfOfTheTtl();
@@ -218,6 +220,16 @@ public final class BoundsOfTermsTest {
         renamedTo("x-2 of another host", 2, withOwn(2, 0, "x", 1));
         renamedTo("x-2 of another type", 2, withOwn(1, 1, "x", 1));
         renamedTo("y-2", 2, withOwn(1, 0, "y", 1));
+        // As many own names as there can be: x-2 to x-12, and a 13th service that is only foretold.
+        Stage all = Stage.of("hosts a b;types t;service a t x 5 100;", 12).behind("x-2 to x-12", x -> {
+            for (int number = 2; number <= 12; number++) {
+                addTo(x, 1, "x", 4);
+                x.pass(3);
+            }
+            return 0;
+        });
+        all.due("the last one", 12, x -> x.service(11, 2));
+        all.due("one more", 13, x -> x.numberIf(1, 0, 0, 4));
     }
 
     // ---- messages
@@ -424,6 +436,19 @@ public final class BoundsOfTermsTest {
         names(more, "then v goes", twelve + " p q r s", 2);
         more = withOne(more, "o", 1000, 12);
         names(more, "then the first of all goes", twelve.replace("x w ", "w ") + " p q r s o", 2);
+        // Any other one goes if it expires first: the first ones, and one in the middle.
+        Stage first = withOne(new Stage("x is short", () -> Scenes.fifteenRecords(300, 1000)), "p", 1000, 8);
+        first = withOne(first, "q", 1000, 8);
+        names(first, "x goes", all.replaceFirst("x ", "") + " p q", 2);
+        first = withOne(first, "r", 1000, 8);
+        names(first, "x-2 goes", all.replaceFirst("x ", "").replace(" x-2", "") + " p q r", 2);
+        Stage second = withOne(new Stage("w is short", () -> Scenes.fifteenRecords(1000, 300)), "p", 1000, 8);
+        second = withOne(second, "q", 1000, 8);
+        names(second, "w goes", all.replaceFirst(" w", "") + " p q", 2);
+        second = withOne(second, "r", 1000, 8);
+        names(second, "w-2 goes", all.replaceFirst(" w", "").replace(" w-2", "") + " p q r", 2);
+        second = withOne(second, "s", 1000, 8);
+        names(second, "w-3 goes", all.replaceFirst(" w", "").replace(" w-2", "").replace(" w-3", "") + " p q r s", 2);
         // The last one goes if it expires first.
         Stage last = withOne(fifteen, "p", 20, 8);
         names(last, "a 16th record", all + " p", 2);
@@ -540,6 +565,27 @@ public final class BoundsOfTermsTest {
         z.withdraw(0);
         z.pass(2);
         is("a goodbye makes no record", 0, z.host(1, 3));
+    }
+
+    /** By a goodbye "this record gets the TTL 1 and BORN t": it keeps its AGE, with which it is refreshed or not. */
+    private static void agesOfGoodbyes() {
+        // The browser asks at 91, 93, 97 and 105; the record is due at 91, 96, 101 and 106.
+        int[][] goodbyes = {{94, 1, 1}, {98, 2, 1}, {102, 3, 1}, {107, 4, 0}};
+        for (int[] goodbye : goodbyes) {
+            Stage apart = one(91).behind("browsed on another side until " + goodbye[0], x -> {
+                x.setSide(0, 1);
+                x.browse(1, 0, true);
+                x.pass(goodbye[0] - 91);
+                return x.setSide(0, 0);
+            }).behind("withdrawn", x -> x.withdraw(0));
+            recordIs("before the goodbye", apart.make(), 1, 0, 0, 0, 5, 0, 100, 11, goodbye[1], 111);
+            Stage come = apart.behind("two ticks", x -> x.pass(2));
+            int born = goodbye[0] + 1;
+            recordIs("refreshed", come.make(), 1, 0, 0, 0, 5, 0, 1, born, goodbye[1] + goodbye[2], born + 1);
+            apart.due("queries", goodbye[2], x -> x.pass(1) * 0 + x.pass(1));
+            Stage ended = apart.behind("browsed no more", x -> x.browse(1, 0, false)).behind("two ticks", x -> x.pass(2));
+            recordIs("not refreshed", ended.make(), 1, 0, 0, 0, 5, 0, 1, born, goodbye[1], born + 1);
+        }
     }
 
     // ---- what hosts do with messages
@@ -700,6 +746,30 @@ public final class BoundsOfTermsTest {
         }
     }
 
+    /** What a response does at one host does not depend on what it does at another one. */
+    private static void responseMeetsMany() {
+        for (int port : new int[] {1, 5, 6, 7, 999}) {
+            // The service of c is withdrawn, that of d has another name; b sends the response.
+            LinkDirectory x = Check.loaded("hosts a b c d;types t;service a t x 5 100;service b t x 6 100;"
+                + "service c t x 999 100;service d t y 1 100;");
+            x.withdraw(2);
+            x.setSide(0, 1);
+            x.pass(12);
+            x.setSide(0, 0);
+            int sent = x.count(4);
+            x.setPort(1, port);
+            x.pass(2);
+            is("a response of b, and one of a, if it has greater DATA", sent + (port < 5 ? 2 : 1), x.count(4));
+            is("conflicts", port < 5 ? 0 : 1, x.count(9));
+            is("renamings", 0, x.count(8));
+            serviceIs("withdrawn", x, 2, 3, 0, NONE);
+            serviceIs("another name", x, 3, 2, 3, NONE);
+            for (int host : new int[] {0, 2, 3}) {
+                is("the record of " + host, port, x.known(host, 1));
+            }
+        }
+    }
+
     /** "A goodbye is only put into the cache": it renames nothing, and it is no conflict. */
     private static void goodbyesMeetServices() {
         LinkDirectory x = Scenes.joined(5, 6);
@@ -787,6 +857,12 @@ public final class BoundsOfTermsTest {
                 is("answers", isOld && port != 5 ? 1 : 0, each.pass(1));
             }
         }
+        // Only those of the type are, one of three and two of three.
+        Stage types = Stage.of("hosts a b;types t u;service a t x 5 100;service a u y 5 100;service a t z 5 100;", 12)
+            .behind("b asks for both", x -> x.browse(1, 0, true) + x.browse(1, 1, true) + x.pass(1));
+        types.due("of t", 2, x -> x.message(0, 7));
+        types.due("of u", 1, x -> x.message(1, 7));
+        types.due("none answers", 0, x -> x.pass(1));
         // All records of a full cache are known answers, if they are alive for long enough.
         LinkDirectory w = Scenes.fifteenRecords();
         Scenes.addTo(w, "p", 1000);

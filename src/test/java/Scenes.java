@@ -35,8 +35,13 @@ final class Scenes {
      * at 611; v expires later, at 625, though its TTL is smaller; x and w are older than these, and have the TTL 1000.
      */
     static LinkDirectory fifteenRecords() {
-        LinkDirectory x = Check.loaded("hosts a b c;types t;service a t x 5 1000;service b t x 6 1000;"
-            + "service a t w 5 1000;service b t w 6 1000;service a t y 5 600;service a t z 5 600;");
+        return fifteenRecords(1000, 1000);
+    }
+
+    /** The same with other TTLs of x and w. */
+    static LinkDirectory fifteenRecords(int ttlOfX, int ttlOfW) {
+        LinkDirectory x = Check.loaded("hosts a b c;types t;service a t x 5 " + ttlOfX + ";service b t x 6 " + ttlOfX
+            + ";service a t w 5 " + ttlOfW + ";service b t w 6 " + ttlOfW + ";service a t y 5 600;service a t z 5 600;");
         x.setSide(1, 1);
         x.pass(12);
         for (int name = 2; name <= 6; name++) {
