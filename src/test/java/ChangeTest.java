@@ -32,25 +32,25 @@ public final class ChangeTest {
     }
 
     private static void pass() {
-        LinkDirectory x = new LinkDirectory();
+        Lasting x = new Lasting();
         Check.due("pass(1)", 3, () -> x.pass(1));
         Check.due("pass(1) without a message", 0, () -> x.pass(1));
         Check.due("the time", 2, () -> x.count(3));
         Check.due("pass(6) and pass(1) are pass(7)", 8, () -> x.pass(6) + x.pass(1));
         Check.due("the time", 9, () -> x.count(3));
-        LinkDirectory y = new LinkDirectory();
+        Lasting y = new Lasting();
         Check.due("pass(9)", 11, () -> y.pass(9));
         Check.same("but for the changes", withoutChanges(x), withoutChanges(y));
-        LinkDirectory z = Check.loaded("hosts a;types t;service a t x 5 50;lose 0 1;");
+        Lasting z = Lasting.loaded("hosts a;types t;service a t x 5 50;lose 0 1;");
         Check.due("lost messages were sent", 5, () -> z.pass(11));
     }
 
-    private static String withoutChanges(LinkDirectory x) {
+    private static String withoutChanges(Lasting x) {
         return Check.stateOf(x).replaceAll("(counts.*) [0-9]+\n", "$1\n");
     }
 
     private static void passWrong() {
-        LinkDirectory x = new LinkDirectory();
+        Lasting x = new Lasting();
         x.pass(100);
         for (int wrong : new int[] {0, -1, 101, LEAST, GREATEST}) {
             Check.dueNothingChanged(x, "pass(" + wrong + ")", ARGUMENT, () -> x.pass(wrong));
@@ -72,14 +72,14 @@ public final class ChangeTest {
         Check.due("one tick is left again", 4999, () -> x.count(3));
     }
 
-    private static LinkDirectory withWord(String word) {
-        LinkDirectory x = Check.loaded("hosts a b;types t u;service a t x 80 100;");
+    private static Lasting withWord(String word) {
+        Lasting x = Lasting.loaded("hosts a b;types t u;service a t x 80 100;");
         Check.put(x, word);
         return x;
     }
 
     private static void add() {
-        LinkDirectory x = withWord("abcdef");
+        Lasting x = withWord("abcdef");
         x.pass(3);
         Check.put(x, "abcdef");
         Check.due("add", 1, () -> x.add(1, 1, 999, 1000));
@@ -114,14 +114,14 @@ public final class ChangeTest {
         Check.due("the name of a withdrawn service", 4, () -> x.add(0, 0, 5, 50));
         Check.put(x, "q");
         Check.due("with another type", 5, () -> x.add(0, 1, 5, 50));
-        LinkDirectory y = new LinkDirectory();
+        Lasting y = new Lasting();
         y.pass(9);
         Check.put(y, "x");
         Check.due("behind a renaming", 2, () -> y.add(0, 0, 5, 50));
     }
 
     private static void addIs(String word, int host, int type, int port, int ttl, long want) {
-        LinkDirectory x = withWord(word);
+        Lasting x = withWord(word);
         String before = Check.stateOf(x);
         String call = "add(" + host + ", " + type + ", " + port + ", " + ttl + ") of '" + word + "'";
         Check.due(call, want, () -> x.add(host, type, port, ttl));
@@ -152,7 +152,7 @@ public final class ChangeTest {
         addIs("x", 1, 0, 5, 50, 1);
         addIs("x", 0, 1, 5, 50, 1);
         addIs("z", 0, 0, 999, 20, 1);
-        LinkDirectory x = withWord("");
+        Lasting x = withWord("");
         for (char base = 'a'; base <= 'k'; base++) {
             Check.put(x, "" + base);
             x.add(1, 0, 5, 50);
@@ -168,7 +168,7 @@ public final class ChangeTest {
     }
 
     private static void withdraw() {
-        LinkDirectory x = Check.loaded("hosts a b;types t;service a t x 80 100;service a t y 80 100;service a t z 80 100;");
+        Lasting x = Lasting.loaded("hosts a b;types t;service a t x 80 100;service a t y 80 100;service a t z 80 100;");
         Check.due("probing", 0, () -> x.withdraw(0));
         Check.due("no ALARM", NONE, () -> x.service(0, 7));
         Check.due("withdrawn", LinkDirectory.WITHDRAWN, () -> x.service(0, 5));
@@ -186,7 +186,7 @@ public final class ChangeTest {
         for (int wrong : new int[] {-1, 3, LEAST, GREATEST}) {
             Check.dueNothingChanged(x, "no such service", INDEX, () -> x.withdraw(wrong));
         }
-        LinkDirectory y = Check.loaded("hosts a b;types t;service a t x 80 100;");
+        Lasting y = Lasting.loaded("hosts a b;types t;service a t x 80 100;");
         y.pass(12);
         y.setOn(0, false, false);
         Check.due("established, but its host is off", 2, () -> y.withdraw(0));
@@ -197,7 +197,7 @@ public final class ChangeTest {
     }
 
     private static void setPort() {
-        LinkDirectory x = Check.loaded("hosts a b;types t;service a t x 80 100;");
+        Lasting x = Lasting.loaded("hosts a b;types t;service a t x 80 100;");
         Check.due("probing", 80, () -> x.setPort(0, 81));
         Check.due("no response", 0, () -> x.count(4));
         Check.due("ALARM stays", 0, () -> x.service(0, 7));
@@ -238,7 +238,7 @@ public final class ChangeTest {
     private static void setOn() {
         String text = "hosts a b c;types t;service a t x 80 100;service a t y 80 100;service b t z 7 100;"
             + "service a t w 80 100;browse a t;browse c t;";
-        LinkDirectory x = Check.loaded(text);
+        Lasting x = Lasting.loaded(text);
         x.withdraw(3);
         x.pass(12);
         int sent = x.count(4);
@@ -277,12 +277,12 @@ public final class ChangeTest {
             Check.dueNothingChanged(x, "no such host", INDEX, () -> x.setOn(wrong, true, true));
             Check.dueNothingChanged(x, "no such host", INDEX, () -> x.setOn(wrong, false, false));
         }
-        LinkDirectory y = new LinkDirectory();
+        Lasting y = new Lasting();
         y.pass(9);
         y.setOn(0, false, true);
         y.setOn(0, true, true);
         Check.due("with the names that they have", 2, () -> y.service(0, 2));
-        LinkDirectory z = Check.loaded(text);
+        Lasting z = Lasting.loaded(text);
         z.pass(2);
         z.setOn(0, false, true);
         Check.due("no goodbye for what is probing", 0, () -> z.count(6));
@@ -291,7 +291,7 @@ public final class ChangeTest {
     }
 
     private static void setSide() {
-        LinkDirectory x = new LinkDirectory();
+        Lasting x = new Lasting();
         Check.due("0 before", 0, () -> x.setSide(1, 1));
         Check.due("1 now", 1, () -> x.host(1, 1));
         Check.due("1 before", 1, () -> x.setSide(1, 1));
@@ -308,7 +308,7 @@ public final class ChangeTest {
     }
 
     private static void browse() {
-        LinkDirectory x = Check.loaded("hosts a b;types t u;browse a t;");
+        Lasting x = Lasting.loaded("hosts a b;types t u;browse a t;");
         x.pass(1);
         Check.due("a second type", 2, () -> x.browse(0, 1, true));
         Check.due("TIME", 1, () -> x.browser(0, 1, 0));
@@ -336,7 +336,7 @@ public final class ChangeTest {
     }
 
     private static void mark() {
-        LinkDirectory x = Check.loaded("hosts a b;types t;service a t x 80 100;lose 3;");
+        Lasting x = Lasting.loaded("hosts a b;types t;service a t x 80 100;lose 3;");
         Check.due("a second one", 2, () -> x.mark(0));
         Check.due("the greatest", 3, () -> x.mark(999));
         Check.due("marked", 1, () -> x.isMarked(999) ? 1 : 0);
@@ -365,7 +365,7 @@ public final class ChangeTest {
     }
 
     private static void undo() {
-        LinkDirectory x = new LinkDirectory();
+        Lasting x = new Lasting();
         Check.due("nothing to undo", STATE, x::undo);
         String[] states = new String[12];
         for (int change = 0; change < 12; change++) {
@@ -391,7 +391,7 @@ public final class ChangeTest {
 
     /** A conflict, a renaming, a lost message, an expired record and what browsers did are undone with the rest. */
     private static void undoOfCounts() {
-        LinkDirectory x = Check.loaded("hosts a b;types t;service a t x 5 20;service b t x 6 20;browse a t;lose 14;");
+        Lasting x = Lasting.loaded("hosts a b;types t;service a t x 5 20;service b t x 6 20;browse a t;lose 14;");
         x.setSide(0, 1);
         x.pass(12);
         x.setSide(0, 0);
@@ -411,7 +411,7 @@ public final class ChangeTest {
 
     /** Each kind of change can be undone, and what was undone can be done again. */
     private static void undoOfEach() {
-        LinkDirectory x = Check.loaded("hosts a b;types t u;service a t x 80 100;service b t x 90 100;browse a t;");
+        Lasting x = Lasting.loaded("hosts a b;types t u;service a t x 80 100;service b t x 90 100;browse a t;");
         x.pass(13);
         Check.Call[] changes = {
             () -> x.pass(7),
@@ -441,7 +441,7 @@ public final class ChangeTest {
     }
 
     private static void changesWithoutEffect() {
-        LinkDirectory x = Check.loaded("hosts a b;types t;service a t x 80 100;browse a t;");
+        Lasting x = Lasting.loaded("hosts a b;types t;service a t x 80 100;browse a t;");
         Check.Call[] changes = {
             () -> x.setPort(0, 80), () -> x.setOn(0, true, true), () -> x.setSide(1, 0),
             () -> x.browse(0, 0, true), () -> x.browse(1, 0, false),
@@ -463,7 +463,7 @@ public final class ChangeTest {
     }
 
     private static void save() {
-        LinkDirectory x = new LinkDirectory();
+        Lasting x = new Lasting();
         x.pass(9);
         String before = Check.stateOf(x);
         Check.dueDeed("save(0)", 0, () -> x.save(0));
@@ -494,7 +494,7 @@ public final class ChangeTest {
     }
 
     private static void restore() {
-        LinkDirectory x = new LinkDirectory();
+        Lasting x = new Lasting();
         for (int slot = 0; slot < 2; slot++) {
             int at = slot;
             Check.dueNothingChanged(x, "nothing is saved", ELEMENT, () -> {

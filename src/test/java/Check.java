@@ -1,4 +1,5 @@
 import java.util.NoSuchElementException;
+import java.util.function.IntUnaryOperator;
 
 /** What the tests share: it compares answers with the ones that are due, and counts the wrong ones. */
 final class Check {
@@ -110,25 +111,33 @@ final class Check {
 
     // ---- handling of texts
 
-    /** Puts a text into the buffer, in place of what was there. */
-    static void put(LinkDirectory x, String text) {
-        x.truncate(0);
-        addText(x, text);
+    /** append() of an object. */
+    private interface Append {
+        int of(int a, int b, int c, int d, int e);
     }
 
-    /** Appends a text of up to 800 bytes to an empty buffer (the 20 bytes of an append() are cut back). */
-    private static void addText(LinkDirectory x, String text) {
-        int length = 0;
+    /** Puts a text into the buffer, in place of what was there. */
+    static void put(LinkDirectory x, String text) {
+        put(text, x::append, x::truncate);
+    }
+
+    static void put(Lasting x, String text) {
+        put(text, x::append, x::truncate);
+    }
+
+    /** Puts a text of up to 800 bytes into the buffer (what the last append() has too much is cut off). */
+    private static void put(String text, Append append, IntUnaryOperator truncate) {
+        int length = truncate.applyAsInt(0);
         for (int from = 0; from < text.length(); from += 20) {
             int[] words = new int[5];
             for (int place = 0; place < 20; place++) {
                 int letter = from + place < text.length() ? text.charAt(from + place) & 255 : 0;
                 words[place / 4] = words[place / 4] << 8 | letter;
             }
-            length = x.append(words[0], words[1], words[2], words[3], words[4]);
+            length = append.of(words[0], words[1], words[2], words[3], words[4]);
         }
         if (length > text.length()) {
-            x.truncate(text.length());
+            truncate.applyAsInt(text.length());
         }
     }
 
@@ -138,21 +147,38 @@ final class Check {
         return answerOf((Call) x::load);
     }
 
+    static long load(Lasting x, String text) {
+        put(x, text);
+        return answerOf((Call) x::load);
+    }
+
     /** A new object with a text that must have no error. */
     static LinkDirectory loaded(String text) {
         LinkDirectory x = new LinkDirectory();
-        long answer = load(x, text);
-        if (answer >= THROWS_INDEX) {
-            tell("the text of a test has an error: " + text);
-        }
+        mustBeLoaded(text, load(x, text));
         return x;
     }
 
+    /** Looks at what load() answered for a text that must have no error. */
+    static void mustBeLoaded(String text, long answer) {
+        if (answer >= THROWS_INDEX) {
+            tell("the text of a test has an error: " + text);
+        }
+    }
+
     static String outputOf(LinkDirectory x) {
+        return outputOf(x::outputByte);
+    }
+
+    static String outputOf(Lasting x) {
+        return outputOf(x::outputByte);
+    }
+
+    private static String outputOf(IntUnaryOperator outputByte) {
         StringBuilder output = new StringBuilder();
         for (int place = 0; ; place++) {
             int at = place;
-            long letter = answerOf((Call) () -> x.outputByte(at));
+            long letter = answerOf((Call) () -> outputByte.applyAsInt(at));
             if (letter == THROWS_INDEX) {
                 return output.toString();
             }
@@ -163,7 +189,7 @@ final class Check {
     // ---- everything that an object shows
 
     /** Every answer of the methods that report what there is; two equal texts mean that nothing visible changed. */
-    static String stateOf(LinkDirectory x) {
+    static String stateOf(Lasting x) {
         StringBuilder all = new StringBuilder();
         line(all, "error", x.errorCode(), x.errorPosition());
         all.append("counts");
@@ -201,7 +227,7 @@ final class Check {
         return all.append("\noutput ").append(outputOf(x)).append('\n').toString();
     }
 
-    private static void hostsTo(StringBuilder all, LinkDirectory x) {
+    private static void hostsTo(StringBuilder all, Lasting x) {
         for (int host = 0; host < x.count(0); host++) {
             all.append("host");
             for (int what = 0; what <= 5; what++) {
@@ -234,7 +260,7 @@ final class Check {
     }
 
     /** Compares a call that must throw, and looks whether it left everything as it was. */
-    static void dueNothingChanged(LinkDirectory x, String what, long want, Call call) {
+    static void dueNothingChanged(Lasting x, String what, long want, Call call) {
         String before = stateOf(x);
         due(what, want, call);
         same(what + " must change nothing", before, stateOf(x));

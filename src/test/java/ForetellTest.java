@@ -243,23 +243,26 @@ public final class ForetellTest {
     }
 
     private static void nothingChanges() {
+        new Stage("at 9", ForetellTest::atNine).unchangedBy("foretelling", x -> {
+            x.establishedIn(0);
+            x.numberIn(0, 100);
+            x.knownIn(1, 0);
+            Check.due("throws", ELEMENT, () -> x.knownIn(0, 0));
+            x.messagesIn(100);
+            x.freshIn();
+            x.numberIf(0, 0, 1, 7);
+            Check.due("throws", STATE, () -> x.numberIf(1, 0, 1, 7));
+            return 0;
+        });
+    }
+
+    private static LinkDirectory atNine() {
         LinkDirectory x = new LinkDirectory();
         x.pass(9);
         x.setPort(0, 5);
         x.write();
         Check.put(x, "b");
-        String before = Check.stateOf(x);
-        x.establishedIn(0);
-        x.numberIn(0, 100);
-        x.knownIn(1, 0);
-        Check.due("throws", ELEMENT, () -> x.knownIn(0, 0));
-        x.messagesIn(100);
-        x.freshIn();
-        x.numberIf(0, 0, 1, 7);
-        Check.due("throws", STATE, () -> x.numberIf(1, 0, 1, 7));
-        Check.same("nothing changed", before, Check.stateOf(x));
-        Check.due("the buffer stays, too", 1, () -> x.find(0));
-        Check.due("undo stays, too", 1, x::undo);
+        return x;
     }
 
     private static void beyondTheEnd() {

@@ -6,10 +6,13 @@ import java.util.Map;
 
 /** A row of calls that are made to the program and to Model; all answers are compared. */
 class ModelRun {
-    private static final Map<String, Method> PROGRAM = methodsOf(LinkDirectory.class);
+    // So that enough of the 512 calls of an object are left to compare what it shows.
+    private static final int MOST_CHANGES = 360;
+
+    private static final Map<String, Method> PROGRAM = methodsOf(Lasting.class);
     private static final Map<String, Method> MODEL = methodsOf(Model.class);
 
-    private final LinkDirectory program = new LinkDirectory();
+    private final Lasting program = new Lasting();
     private final Model model = new Model();
     final StringBuilder calls = new StringBuilder();
     final Dice dice;
@@ -80,6 +83,11 @@ class ModelRun {
 
     final int number(String name, Object... args) {
         return Integer.parseInt(call(name, args));
+    }
+
+    /** Whether some more changes can be made. */
+    final boolean hasRoom() {
+        return program.changesMade() < MOST_CHANGES;
     }
 
     final void end() {

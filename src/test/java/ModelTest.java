@@ -26,7 +26,7 @@ public final class ModelTest extends ModelRun {
         compareAll();
         int steps = dice.from(20, 120);
         boolean isCalm = dice.isOneIn(2);
-        for (int step = 0; step < steps && !isWrong; step++) {
+        for (int step = 0; step < steps && !isWrong && hasRoom(); step++) {
             step(isCalm);
             if (dice.isOneIn(3)) {
                 compareAll();

@@ -43,12 +43,9 @@ public final class NewObjectTest {
 
     /** The state is that for the text: also behind 30 ticks it is the same as with the text loaded. */
     private static void asTheText() {
-        LinkDirectory x = new LinkDirectory();
-        LinkDirectory y =
-            Check.loaded("hosts a b;types t;service a t x 80 100;service b t x 90 100;browse a t;");
-        Check.same("the state for the text", Check.stateOf(y), Check.stateOf(x));
-        x.pass(30);
-        y.pass(30);
-        Check.same("the state for the text, 30 ticks later", Check.stateOf(y), Check.stateOf(x));
+        String text = "hosts a b;types t;service a t x 80 100;service b t x 90 100;browse a t;";
+        Check.same("the state for the text", View.of(() -> Check.loaded(text)), View.of(LinkDirectory::new));
+        Check.same("the state for the text, 30 ticks later", View.of(() -> Stage.passed(Check.loaded(text), 30)),
+            View.of(() -> Stage.passed(new LinkDirectory(), 30)));
     }
 }

@@ -10,6 +10,7 @@ public final class OutputTest {
         longOutput();
         outputByte();
         outputStays();
+        writeAlone();
         Check.end();
     }
 
@@ -85,8 +86,10 @@ public final class OutputTest {
         Check.load(x, "hosts b;types b;");
         Check.same("behind load()", want, Check.outputOf(x));
         written(x, "");
-        String before = Check.stateOf(x);
-        x.write();
-        Check.same("write() changes nothing else", before, Check.stateOf(x));
+    }
+
+    private static void writeAlone() {
+        Stage stage = new Stage("lively", Scenes::lively).behind("write()", LinkDirectory::write);
+        stage.unchangedBy("write() again", LinkDirectory::write);
     }
 }

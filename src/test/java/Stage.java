@@ -70,7 +70,12 @@ final class Stage {
     /** The call must answer, and change nothing. */
     void shown(String what, long want, CallOn call) {
         due(what, want, call);
-        Check.same(name + ": " + what + " must change nothing", view(), viewBehind(call));
+        unchangedBy(what, call);
+    }
+
+    /** A call, or some 150 of them, must change nothing at all. */
+    void unchangedBy(String what, CallOn calls) {
+        Check.same(name + ": " + what + " must change nothing", view(), viewBehind(calls));
     }
 
     // ---- calls that are refused
@@ -78,7 +83,7 @@ final class Stage {
     /** The call must throw, and change nothing at all. */
     void refused(String what, long want, CallOn call) {
         due(what, want, call);
-        Check.same(name + ": " + what + " must change nothing", view(), viewBehind(call));
+        unchangedBy(what, call);
     }
 
     /** The call must throw, and change nothing but the buffer, which is empty then. */

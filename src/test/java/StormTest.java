@@ -19,7 +19,9 @@ public final class StormTest extends ModelRun {
         int runs = args.length > 0 ? Integer.parseInt(args[0]) : 100;
         int first = args.length > 1 ? Integer.parseInt(args[1]) : 0;
         new StormTest(0).manyMessages();
-        new StormTest(0).twoOfSix();
+        for (int one = 0; one < 5; one++) {
+            new StormTest(0).twoOfSix(one);
+        }
         moreThanNumbersTell();
         for (int run = first; run < first + runs; run++) {
             new StormTest(run).run();
@@ -102,7 +104,7 @@ public final class StormTest extends ModelRun {
      * Each of six hosts answers in the same storm; as it comes, two of them are on a side of their own, so that each
      * of the two hears the other one alone, whether it was the first or the last one that answered.
      */
-    private void twoOfSix() {
+    private void twoOfSix(int one) {
         put("hosts a b c d e f;types t;");
         change("load");
         for (int host = 0; host < 6; host++) {
@@ -120,11 +122,9 @@ public final class StormTest extends ModelRun {
         change("pass", 1);
         Check.same("messages of all six", 25, number("count", 6));
         change("save", 0);
-        for (int one = 0; one < 6; one++) {
-            for (int other = one + 1; other < 6; other++) {
-                part(one, other, true);
-                part(one, other, false);
-            }
+        for (int other = one + 1; other < 6; other++) {
+            part(one, other, true);
+            part(one, other, false);
         }
         end();
     }
@@ -190,7 +190,7 @@ public final class StormTest extends ModelRun {
             meetOutsider();
         }
         int steps = dice.from(10, 40);
-        for (int step = 0; step < steps && !isWrong; step++) {
+        for (int step = 0; step < steps && !isWrong && hasRoom(); step++) {
             if (number("count", 6) < MOST_MESSAGES) {
                 raisePorts();
             } else {

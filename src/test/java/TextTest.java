@@ -28,7 +28,7 @@ public final class TextTest {
     }
 
     private static void append() {
-        LinkDirectory x = new LinkDirectory();
+        Lasting x = new Lasting();
         // "hosts a b;types t;  " cut to 18 bytes: every byte of every argument has to stand in its place.
         Check.due("append", 20, () -> x.append(0x686f7374, 0x73206120, 0x623b7479, 0x70657320, 0x743b2020));
         x.truncate(18);
@@ -135,6 +135,16 @@ public final class TextTest {
     /** What was foretold before must not come into the state for a text. */
     private static void loadBehindForetelling() {
         String text = "hosts a b;types t u;service a t x 5 20;service b t x 6 20;browse a t;browse b u;lose 3;";
+        String view = View.of(() -> Check.loaded(text));
+        String later = View.of(() -> Stage.passed(Check.loaded(text), 30));
+        for (int ticks = 0; ticks <= 100; ticks++) {
+            int foretold = ticks;
+            Check.same("the state for the text", view, View.of(() -> loadedBehind(foretold, text)));
+            Check.same("30 ticks later", later, View.of(() -> Stage.passed(loadedBehind(foretold, text), 30)));
+        }
+    }
+
+    private static LinkDirectory loadedBehind(int foretold, String text) {
         LinkDirectory x = Check.loaded(text);
         x.setSide(0, 1);
         x.pass(12);
@@ -143,24 +153,13 @@ public final class TextTest {
         x.setPort(0, 7);
         x.setOn(0, false, true);
         x.setOn(0, true, false);
-        for (int ticks = 0; ticks <= 100; ticks++) {
-            x.messagesIn(ticks);
-            Check.load(x, text);
-            LinkDirectory y = Check.loaded(text);
-            Check.same("the state for the text", Check.stateOf(y), Check.stateOf(x));
-            x.pass(30);
-            y.pass(30);
-            Check.same("30 ticks later", Check.stateOf(y), Check.stateOf(x));
-            x.undo();
-            x.setSide(0, 1);
-            x.pass(12);
-            x.setSide(0, 0);
-            x.setPort(1, 6);
-        }
+        x.messagesIn(foretold);
+        Check.load(x, text);
+        return x;
     }
 
     private static void failedLoad() {
-        LinkDirectory x = new LinkDirectory();
+        Lasting x = new Lasting();
         x.pass(20);
         x.write();
         x.save(1);
@@ -388,7 +387,7 @@ public final class TextTest {
     }
 
     private static void find() {
-        LinkDirectory x = Check.loaded("hosts alpha b abcdef;types t ta abcdef;"
+        Lasting x = Lasting.loaded("hosts alpha b abcdef;types t ta abcdef;"
             + "service b t yy 5 50;service alpha t xx 5 50;service b ta yy 5 50;service b ta abcdef 5 50;");
         found(x, "alpha", 0, 0);
         found(x, "b", 0, 1);
@@ -403,14 +402,14 @@ public final class TextTest {
         found(x, "yy", 2, 0);
     }
 
-    private static void found(LinkDirectory x, String name, int sort, long want) {
+    private static void found(Lasting x, String name, int sort, long want) {
         Check.put(x, name);
         Check.due("find(" + sort + ") of " + name, want, () -> x.find(sort));
         Check.due("the buffer is empty", Check.THROWS_INDEX, () -> x.truncate(1));
     }
 
     private static void findWrong() {
-        LinkDirectory x = Check.loaded("hosts alpha b abcdef;types t ta;service b t yy 5 50;");
+        Lasting x = Lasting.loaded("hosts alpha b abcdef;types t ta;service b t yy 5 50;");
         String before = Check.stateOf(x);
         for (String name : new String[] {"", "alph", "alphaa", "alpha ", " alpha", "Alpha", "al", "ta", "yy",
             "abcdefg", "abcdef\0", "1", "a".repeat(800)}) {
