@@ -8,6 +8,17 @@ import java.util.List;
 final class Lasting {
     private static final int MOST_CALLS = 512;
 
+    // The calls that must change nothing: if one did, the next answers of a new object would tell.
+    private static final Stage.CallOn[] LOOKS = {
+        LinkDirectory::errorCode, LinkDirectory::errorPosition, x -> x.count(0), x -> x.host(0, 0),
+        x -> x.service(0, 0), x -> x.baseByte(0, 0), x -> x.haveSameName(0, 0) ? 1 : 0, x -> x.record(0, 0, 0),
+        x -> x.recordByte(0, 0, 0), x -> x.browser(0, 0, 0), x -> x.message(0, 0), x -> x.isMarked(0) ? 1 : 0,
+        x -> x.log(0, 0), x -> x.known(0, 0), x -> x.records(0, 0), LinkDirectory::stale, LinkDirectory::clashes,
+        x -> (long) x.coverage(), x -> x.why(0, 0), x -> x.establishedIn(0), x -> x.numberIn(0, 2),
+        x -> x.knownIn(0, 0), x -> x.messagesIn(2), LinkDirectory::freshIn, x -> x.numberIf(0, 0, 0, 5),
+        x -> x.outputByte(0),
+    };
+
     private final List<Stage.CallOn> changes = new ArrayList<>();
     private LinkDirectory object = new LinkDirectory();
     private int calls = 0;
@@ -39,13 +50,16 @@ final class Lasting {
     }
 
     private void renew() {
-        if (changes.size() == MOST_CALLS) {
-            throw new AssertionError("a test makes more than 512 calls that may change an object");
+        if (changes.size() + LOOKS.length >= MOST_CALLS) {
+            throw new AssertionError("a test makes too many calls that may change an object");
         }
         object = new LinkDirectory();
-        calls = changes.size();
+        calls = changes.size() + LOOKS.length;
         for (Stage.CallOn change : changes) {
             Check.answerOf((Check.Call) () -> change.on(object));
+        }
+        for (Stage.CallOn look : LOOKS) {
+            Check.answerOf((Check.Call) () -> look.on(object));
         }
     }
 
